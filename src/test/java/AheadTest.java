@@ -13,6 +13,7 @@ public final class AheadTest {
         namingFullAndStarted();
         circles();
         circleTakesTheLeast();
+        circleByReaderZero();
         beginning();
         rowsMade();
         CHECKS.end();
@@ -294,6 +295,23 @@ public final class AheadTest {
         due("1 names 5 once more", x.name(1, 5), RingPost.CIRCLE);
         due("by 2 now", x.circle(2), 2);
         due("the end", x.circle(3), -1);
+    }
+
+    private static void circleByReaderZero() {
+        CHECKS.part("promise 6");
+        RingPost x = new RingPost();
+        x.ring(1);
+        x.ring(1);
+        for (int i = 0; i < 3; i++) {
+            x.reader(7, 0, 1);
+        }
+        due("0 names 1", x.name(0, 1), 1);
+        due("2 names 0", x.name(2, 0), 1);
+        due("1 names 2", x.name(1, 2), RingPost.CIRCLE);
+        int[] way = {1, 2, 0, -1};
+        for (int i = 0; i < way.length; i++) {
+            due("circle " + i, x.circle(i), way[i]);
+        }
     }
 
     private static void beginning() {

@@ -267,6 +267,15 @@ public final class ReadersTest {
         x.read(3);
         x.read(0);
         due("a higher stamp goes on", x.last(1), 21);
+        RingPost second = new RingPost();
+        second.ring(2);
+        second.ring(2);
+        second.reader(7, 0, 1);
+        second.begin();
+        post(second, 1, 9, 0);
+        post(second, 0, 8, 0);
+        due("behind a single claim", second.read(0), 1);
+        due("none is below last", second.last(1), 9);
     }
 
     private static void echoShut() {
@@ -396,6 +405,16 @@ public final class ReadersTest {
         x.publish(0, 6, 5, 0);
         due("its entry is gone: an older claim makes one", x.read(0), 1);
         due("number 6", x.got(0, 1), 6);
+        for (int key = 10; key < 13; key++) {
+            post(x, 0, 4, key);
+        }
+        x.read(0);
+        post(x, 0, 4, 13);
+        for (int key = 11; key < 14; key++) {
+            due("each entry has a row of its own", x.read(0), 1);
+            due("key " + key, x.got(0, 3), key);
+            due("its word", x.word(0, 0), key - 2);
+        }
     }
 
     private static void foldsOfLostClaims() {

@@ -537,6 +537,15 @@ public final class WritersTest {
         x.close(2);
         due("the merge reads", x.read(6), 1);
         due("all have read", x.told(0, 3), 1);
+        RingPost two = new RingPost();
+        two.ring(2);
+        two.reader(2, 0, 0);
+        two.reader(2, 0, 0);
+        two.begin();
+        two.claim(0, 0);
+        two.publish(0, 0, 0, 0);
+        two.read(1);
+        due("the first holder is the one behind", two.told(0, 3), 0);
     }
 
     private static void lastStamps() {
