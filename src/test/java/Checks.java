@@ -10,15 +10,19 @@ final class Checks {
     }
 
     void due(String call, long answer, long want) {
-        seen++;
-        if (answer != want) {
-            wrong++;
-            System.out.println(part + ": " + call + " answered " + answer + ", due is " + want);
-        }
+        due(call, answer, answer == want, String.valueOf(want));
     }
 
     void due(String call, boolean answer, boolean want) {
         due(call, answer ? 1 : 0, want ? 1 : 0);
+    }
+
+    void due(String call, long answer, boolean isDue, String want) {
+        seen++;
+        if (!isDue) {
+            wrong++;
+            System.out.println(part + ": " + call + " answered " + answer + ", due is " + want);
+        }
     }
 
     int wrong() {
