@@ -10,15 +10,18 @@ import java.util.Map;
  * A call of a RingPost, told as text: claim(0,5)=2 is the call claim(0, 5L), and 2 is due. Without an answer behind it
  * the call must not be refused.
  *
- * <p>A number may be MIN or MAX (of the int or long that is wanted there), a row 3..5, one number more than once 2*8, or
- * several of these with | between them; then there is a call for each. Their answers are told likewise: one for each,
- * or one for all. Answers may also be told by the names of the constants.
+ * <p>A number may be MIN or MAX (of the int or long that is wanted there), a row 3..5, one number more than once 2*8,
+ * or several of these with | between them; then there is a call for each. Their answers are told likewise: one for
+ * each, or one for all. Answers may also be told by the names of the constants.
  */
 final class Call {
     /** Written out once more, so that a constant of the program that is wrong is seen. */
     private static final List<String> REFUSALS = List.of("NUMBER", "STATE", "KIND", "FULL", "THERE", "CIRCLE", "GIVEN",
         "CLOSED", "FALLS", "HELD", "NOT", "FOUND");
-    private static final Map<String, Method> METHODS = methods();
+    private static final Map<String, Method> METHODS = methods(RingPost.class);
+    private static final Map<String, Method> MODEL_METHODS = methods(Model.class);
+    /** No call answers this, and none may throw. */
+    private static final long THREW = -987654321987L;
 
     final String name;
     final String text;
@@ -40,10 +43,10 @@ final class Call {
         text = name + "(" + told + ")";
     }
 
-    private static Map<String, Method> methods() {
+    private static Map<String, Method> methods(Class<?> of) {
         Map<String, Method> all = new HashMap<>();
-        for (Method each : RingPost.class.getDeclaredMethods()) {
-            if (Modifier.isPublic(each.getModifiers())) {
+        for (Method each : of.getDeclaredMethods()) {
+            if (!Modifier.isPrivate(each.getModifiers())) {
                 all.put(each.getName(), each);
             }
         }
@@ -142,13 +145,22 @@ final class Call {
         return arguments.length > 0 && arguments[0] instanceof Integer number ? number : 0;
     }
 
-    /** What the program answers; true and false count 1 and 0. */
+    /** What the program answers; true and false count 1 and 0, and to throw is THREW. */
     long answerOf(RingPost post) {
+        return answer(method, post);
+    }
+
+    long answerOf(Model model) {
+        return answer(MODEL_METHODS.get(name), model);
+    }
+
+    private long answer(Method called, Object object) {
         try {
-            Object answer = method.invoke(post, arguments);
+            Object answer = called.invoke(object, arguments);
             return answer instanceof Boolean yes ? (yes ? 1 : 0) : ((Number) answer).longValue();
         } catch (InvocationTargetException thrown) {
-            throw new IllegalStateException(text + " threw " + thrown.getCause(), thrown.getCause());
+            System.out.println(text + " threw " + thrown.getCause());
+            return THREW;
         } catch (IllegalAccessException closed) {
             throw new IllegalStateException(closed);
         }

@@ -25,8 +25,14 @@ public final class FaceTest {
     private static final Set<String> CONSTANTS = Set.of("NUMBER = -1", "STATE = -2", "KIND = -3", "FULL = -4",
         "THERE = -5", "CIRCLE = -6", "GIVEN = -7", "CLOSED = -8", "FALLS = -9", "HELD = -10", "NOT = -11",
         "FOUND = -12");
+    /** Words that no rule leaves (rules 1, 3, 6 and 13). */
     private static final Set<String> BARRED = Set.of("throw", "throws", "try", "catch", "finally", "synchronized",
-        "assert", "package", "hashCode", "toString", "Object", "Thread", "native", "volatile");
+        "assert", "package", "hashCode", "Object", "Thread", "Random", "volatile", "native");
+    private static final Set<String> IMPORTS = Set.of("java.util.Arrays", "java.util.ArrayList", "java.util.List",
+        "java.util.Iterator");
+    /** Rule 4; of Math, Integer and Long all static functions whose names don't end in Exact. */
+    private static final Set<String> LIBRARY = Set.of("System.arraycopy", "Arrays.copyOf", "Arrays.copyOfRange",
+        "Arrays.fill", "List.of");
 
     public static void main(String[] args) throws ReflectiveOperationException, IOException {
         face();
@@ -45,7 +51,7 @@ public final class FaceTest {
     }
 
     private static void face() throws ReflectiveOperationException {
-        CHECKS.part("the face");
+        CHECKS.part("rule 1, the face");
         Class<?> face = RingPost.class;
         CHECKS.due("public", Modifier.isPublic(face.getModifiers()), true);
         CHECKS.due("final", Modifier.isFinal(face.getModifiers()), true);
@@ -90,31 +96,51 @@ public final class FaceTest {
     }
 
     private static void insideClasses() {
-        CHECKS.part("the classes inside");
+        CHECKS.part("rules 1, 2, 5 and 11, the classes inside");
         Class<?>[] inside = RingPost.class.getDeclaredClasses();
-        CHECKS.due("twelve at most", inside.length < 12, true);
+        CHECKS.due("twelve at most", inside.length <= 12, true);
         for (Class<?> each : inside) {
             CHECKS.due(each + " is static", Modifier.isStatic(each.getModifiers()), true);
             CHECKS.due(each + " isn't public",
                 Modifier.isPublic(each.getModifiers()) || Modifier.isProtected(each.getModifiers()), false);
-            CHECKS.due(each + " has twenty fields at most", each.getDeclaredFields().length <= 20, true);
+            int fields = 0;
+            for (Field field : each.getDeclaredFields()) {
+                boolean isStatic = Modifier.isStatic(field.getModifiers());
+                CHECKS.due(each + " " + field.getName() + " is no changing static",
+                    isStatic && !Modifier.isFinal(field.getModifiers()), false);
+                fields += isStatic ? 0 : 1;
+            }
+            CHECKS.due(each + " has twenty fields at most", fields <= 20, true);
         }
     }
 
     private static void source() throws IOException {
-        CHECKS.part("the source");
+        CHECKS.part("rules 3, 4, 6 and 13, the source");
         String text = Files.readString(SOURCE).replaceAll("(?s)/\\*.*?\\*/", "").replaceAll("//[^\n]*", "");
-        Matcher words = Pattern.compile("[A-Za-z]+").matcher(text);
-        while (words.find()) {
-            CHECKS.due("'" + words.group() + "' isn't barred", BARRED.contains(words.group()), false);
+        for (String word : found("[A-Za-z]+", text)) {
+            CHECKS.due("'" + word + "' isn't barred", BARRED.contains(word), false);
         }
-        CHECKS.due("no lambda", text.contains("->"), false);
+        for (String line : found("(?m)^import [^;]*", text)) {
+            CHECKS.due(line, IMPORTS.contains(line.substring("import ".length())), true);
+        }
+        for (String line : found("(?m)^.*->", text)) {
+            CHECKS.due("no lambda: " + line.trim(), line.trim().matches("(case .*|default) ->"), true);
+        }
         CHECKS.due("no method reference", text.contains("::"), false);
-        Matcher calls = Pattern.compile("\\b[A-Z][a-z]\\w*\\.\\w+").matcher(text);
-        while (calls.find()) {
-            boolean known = Set.of("Math.max", "Math.min", "Integer.bitCount", "Arrays.fill", "System.arraycopy")
-                .contains(calls.group());
-            CHECKS.due(calls.group() + " is a call that is used here", known, true);
+        for (String call : found("\\b(Math|Integer|Long)\\.\\w+", text)) {
+            CHECKS.due(call + " isn't Exact", call.endsWith("Exact"), false);
         }
+        for (String call : found("\\b(System|Arrays|List|String|StringBuilder|Character|Runtime)\\.\\w+", text)) {
+            CHECKS.due(call + " is of the library that is left", LIBRARY.contains(call), true);
+        }
+    }
+
+    private static Set<String> found(String pattern, String text) {
+        Set<String> all = new TreeSet<>();
+        Matcher matcher = Pattern.compile(pattern).matcher(text);
+        while (matcher.find()) {
+            all.add(matcher.group());
+        }
+        return all;
     }
 }

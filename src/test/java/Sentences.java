@@ -3,12 +3,14 @@ import java.util.regex.Pattern;
 
 /** Sentences of one part of the document; behind each sentence the runs of calls that would break if it were broken. */
 abstract class Sentences {
+    static final String FIRST_NAMED = "Of several refusals that a call names the first one named is answered.";
     private static final int MOST_CALLS = 512;
     private static final Pattern MORE = Pattern.compile("#\\+(\\d+)");
 
     private final Checks checks;
     private final Document document;
     private String section = "";
+    private String sentenceSection = "";
     private String sentence = "";
     private boolean isHeld = true;
 
@@ -26,11 +28,22 @@ abstract class Sentences {
 
     /** What the next runs hold, in the document's own words. */
     final void sentence(String words) {
-        endSentence();
-        sentence = words;
-        isHeld = false;
+        startSentence(section, words);
         checks.part(section + ", \"" + sentence + "\"");
         checks.due("the document says so", document.has(section, sentence), true);
+    }
+
+    /** The next runs hold the order of the refusals that the section names. */
+    final void firstNamed() {
+        startSentence("terms", FIRST_NAMED);
+        checks.part(section + ", by terms 4, \"" + sentence + "\"");
+    }
+
+    private void startSentence(String fromSection, String words) {
+        endSentence();
+        sentenceSection = fromSection;
+        sentence = words;
+        isHeld = false;
     }
 
     final void endSentence() {
@@ -50,25 +63,9 @@ abstract class Sentences {
             checks.due(before + call.text, answers[i], call.isDue(answers[i]), call.dueAsText());
             before.append(call.text).append('=').append(answers[i]).append(' ');
         }
-        runWithoutRefusals(calls, answers);
-        document.hold(section, sentence);
+        Refused.changesNothing(checks, calls, answers);
+        document.hold(sentenceSection, sentence);
         isHeld = true;
-    }
-
-    /** The same calls without the refused ones answer the same: a refused call changes nothing (terms 4). */
-    private void runWithoutRefusals(List<Call> calls, long[] answers) {
-        RingPost post = new RingPost();
-        for (int i = 0; i < answers.length; i++) {
-            Call call = calls.get(i);
-            boolean misses = call.name.equals("read") && post.of(call.first(), 0) == 3;
-            if (answers[i] < 0 && call.mayBeRefused() && !misses) {
-                continue;
-            }
-            long answer = call.answerOf(post);
-            if (!call.tellsOfRefusals()) {
-                checks.due("without the refused calls ahead of it " + call.text, answer, answers[i]);
-            }
-        }
     }
 
     /** The calls once for each number; it stands where # does, and so much more of it where #+ does. */
@@ -76,8 +73,9 @@ abstract class Sentences {
         StringBuilder all = new StringBuilder();
         for (int i = from; i <= to; i++) {
             int number = i;
-            String more = MORE.matcher(calls).replaceAll(part -> String.valueOf(number + Integer.parseInt(part.group(1))));
-            all.append(more.replace("#", String.valueOf(i))).append(' ');
+            String added = MORE.matcher(calls)
+                .replaceAll(part -> String.valueOf(number + Integer.parseInt(part.group(1))));
+            all.append(added.replace("#", String.valueOf(i))).append(' ');
         }
         return all.toString();
     }
@@ -87,7 +85,7 @@ abstract class Sentences {
         return each(from, without - 1, calls) + each(Math.max(from, without + 1), to, calls);
     }
 
-    /** Rings 0 and 1 of so many slots; readers 0 .. 6 are of kinds 1 .. 7 in ring 0, with ring 1 (the GATE: reader 1). */
+    /** Rings 0 and 1 of so many slots; readers 0 .. 6 of kinds 1 .. 7 in ring 0, with ring 1 (the GATE: reader 1). */
     static String allKinds(int slots) {
         return "ring(" + slots + "*2)=0|1 reader(1..7,0,1)=0..6 ";
     }

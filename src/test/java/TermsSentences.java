@@ -53,8 +53,8 @@ final class TermsSentences extends Sentences {
 
     private void beginning() {
         sentence("A claim is refused exactly where a reader would lose what it waits for");
-        run(begun(2, "2"), "batch(0,0,2)=0 publish(0,0|1,0,0)=1 claim(0,0)=HELD read(0)=1 claim(0,0)=2",
-            "claim(0,0)=HELD read(0)=1 publish(0,2,0,0)=1 claim(0,0)=3 claim(0,0)=HELD");
+        run(begun(2, "2"), "batch(0,0,2)=0 publish(0,0|1,0,0)=1 claim(0,0)=HELD read(0)=1 claim(0,0)=2 claim(0,0)=HELD",
+            "read(0)=1 publish(0,2,0,0)=1 claim(0,0)=3 claim(0,0)=HELD");
         // Nobody waits where there are but SEES, MISSES and FOLDS.
         run(begun(2, "1|3|4"), post(0, 0, 9, 0, 0));
 
@@ -126,16 +126,15 @@ final class TermsSentences extends Sentences {
         run("ring(1)=0", each(0, 15, "reader(2,0,0)=#"), "reader(2,0,0)=FULL of(0..15,0)=2 of(MIN|-1|16|MAX,0)=FOUND");
 
         sentence("Kinds: 1 SEES, 2 WAITS, 3 MISSES, 4 FOLDS, 5 MERGE, 6 GATE, 7 ECHO.");
-        run(allKinds(1), "of(0..6,0)=1..7 reader(MIN|-1|0|8|MAX,0,1)=NUMBER",
-            "named(0..4,0)=FOUND named(5,0)=1 named(6,0)=-1 entry(0..2|4..6,0)=FOUND entry(3,0)=-1",
-            "target(0..5)=FOUND target(6)=1");
+        run(allKinds(1), "of(0..6,0)=1..7 reader(MIN|-1|0|8|MAX,0,1)=NUMBER named(0..4,0)=FOUND named(5,0)=1",
+            "named(6,0)=-1 entry(0..2|4..6,0)=FOUND entry(3,0)=-1 target(0..5)=FOUND target(6)=1");
     }
 
     private void places() {
         sentence("WAITS, MISSES, GATE and ECHO have a PLACE in their ring, a MERGE in each of its one to four rings: "
             + "the number of the claim that it reads next, 0 at first.");
-        run("ring(2*5)=0..4 reader(1..7,0,1)=0..6 join(4,2)=1 join(4,4)=1 place(0|3,0..4)=-1",
-            "place(1|2|5|6,0)=0 place(1|2|5|6,1..4)=-1 place(4,0|1|2|4)=0 place(4,3)=-1 begin()=1",
+        run("ring(2*5)=0..4 reader(1..7,0,1)=0..6 join(4,2)=1 join(4,4)=1 place(0|3,0..4)=-1 place(1|2|5|6,0)=0",
+            "place(1|2|5|6,1..4)=-1 place(4,0|1|2|4)=0 place(4,3)=-1 begin()=1",
             post(0, 0, 0, 0, 0), "read(1|2|5|6)=1 place(1|2|5|6,0)=1 place(1|2|5|6,1)=-1 close(2|4)=1",
             // Both of its other rings have a claim of stamp 0: ring 0, then (ring 0 is closed) ring 1.
             "read(4)=1 place(4,0|1|2|4)=1|0|0|0 close(0)=1 read(4)=1 place(4,0|1|2|4)=1|1|0|0 place(0|3,0)=-1");
@@ -173,8 +172,8 @@ final class TermsSentences extends Sentences {
             + "ring, number of the claim, STAMP, KEY, LENGTH, 8 longs.");
         run(begun(1, "2"), "claim(0,-9)=0", each(0, 7, "fill(0,0,#,10#)=1"), "publish(0,0,31,8)=1 read(0)=1",
             // The slot has another claim by now.
-            "claim(0,3)=1", each(0, 7, "fill(0,1,#,20#)=1"), "publish(0,1,4,2)=1",
-            "got(0,0..4)=0|0|-9|31|8 word(0,0..7)=100..107 read(0)=1 got(0,0..4)=0|1|3|4|2 word(0,0..7)=200..207",
+            "claim(0,3)=1", each(0, 7, "fill(0,1,#,20#)=1"), "publish(0,1,4,2)=1 got(0,0..4)=0|0|-9|31|8",
+            "word(0,0..7)=100..107 read(0)=1 got(0,0..4)=0|1|3|4|2 word(0,0..7)=200..207",
             // Neither reading nothing nor a refusal is getting.
             "read(0)=0 got(0,0..4)=0|1|3|4|2 give(0)=1 read(0)=FOUND got(0,0..4)=0|1|3|4|2 word(0,0..7)=200..207");
         // A FOLDS whose next ENTRY is of the same KEY.
@@ -182,12 +181,12 @@ final class TermsSentences extends Sentences {
             "publish(0,1,1,2)=1 got(0,0..4)=0|0|1|1|1 word(0,0)=11 read(0)=1 got(0,0..4)=0|1|2|1|2 word(0,0)=22");
         // An ECHO keeps what it read, not what it wrote; a MERGE tells the ring.
         run("ring(2*2)=0|1 reader(7,1,0)=0 reader(5,1,0)=1 begin()=1 claim(0,6)=0 claim(1,5)=0 fill(1,0,7,3)=1",
-            "publish(1,0,2,4)=1 read(0)=1 got(0,0..4)=1|0|5|2|4 word(0,7)=3 publish(0,0,8,1)=1",
-            "read(1)=1 got(1,0..4)=1|0|5|2|4 word(1,7)=3 close(1)=1 read(1)=1 got(1,0..4)=0|0|6|8|1 word(1,7)=0",
-            "read(1)=1 got(1,0..4)=0|1|6|2|4 word(1,7)=3");
-        run(begun(1, "1|3"), "claim(0,4)=0 fill(0,0,3,5)=1 publish(0,0,6,7)=1 read(0|1)=1 claim(0,8)=1",
-            "fill(0,1,3,9)=1 got(0,0..4)=0|0|4|6|7 got(1,0..4)=0|0|4|6|7 word(0|1,3)=5 publish(0,1,1,1)=1 give(0)=1",
-            "read(0|1)=FOUND got(0,0..4)=0|0|4|6|7 got(1,0..4)=0|0|4|6|7 word(0|1,3)=5");
+            "publish(1,0,2,4)=1 read(0)=1 got(0,0..4)=1|0|5|2|4 word(0,7)=3 publish(0,0,8,1)=1 read(1)=1",
+            "got(1,0..4)=1|0|5|2|4 word(1,7)=3 close(1)=1 read(1)=1 got(1,0..4)=0|0|6|8|1 word(1,7)=0 read(1)=1",
+            "got(1,0..4)=0|1|6|2|4 word(1,7)=3");
+        run(begun(1, "1|3"), "claim(0,4)=0 fill(0,0,3,5)=1 publish(0,0,6,7)=1 read(0|1)=1 claim(0,8)=1 fill(0,1,3,9)=1",
+            "got(0,0..4)=0|0|4|6|7 got(1,0..4)=0|0|4|6|7 word(0|1,3)=5 publish(0,1,1,1)=1 give(0)=1 read(0|1)=FOUND",
+            "got(0,0..4)=0|0|4|6|7 got(1,0..4)=0|0|4|6|7 word(0|1,3)=5");
 
         sentence("READING, by kinds (n is CLAIMED of the ring):");
         run(allKinds(2), "begin()=1 read(0..6)=0", post(0, 0, 0, 0, 0), "read(0..3)=1 read(4)=0 read(5|6)=1 read(4)=1",
@@ -200,9 +199,9 @@ final class TermsSentences extends Sentences {
         // Claim 0 is one, if nothing was got; then it is none.
         run(begun(4, "1"), "read(0)=0 claim(0,0)=0 read(0)=0 publish(0,0,0,0)=1 read(0)=1 got(0,1)=0 read(0)=0");
         run(begun(8, "1"), "batch(0,0,6)=0 read(0)=0 publish(0,2,0,0)=1 read(0)=1 got(0,1)=2 publish(0,1,0,0)=1",
-            "read(0)=0 got(0,1)=2 publish(0,0,0,0)=1 read(0)=0 publish(0,4,0,0)=1 publish(0,3,0,0)=1",
-            "read(0)=1 got(0,1)=4 read(0)=0 publish(0,5,0,0)=1 read(0)=1 got(0,1)=5 of(0,8)=3");
-        // Claim 3, published, is LOST once claim 7 is made: the greatest one that is left is below what was got, or none.
+            "read(0)=0 got(0,1)=2 publish(0,0,0,0)=1 read(0)=0 publish(0,4,0,0)=1 publish(0,3,0,0)=1 read(0)=1",
+            "got(0,1)=4 read(0)=0 publish(0,5,0,0)=1 read(0)=1 got(0,1)=5 of(0,8)=3");
+        // Claims 0 .. 3 are PUBLISHED; 3 is LOST once claim 7 is made, and not before.
         run(begun(4, "1"), "batch(0,0,4)=0 publish(0,0..3,0,0)=1 batch(0,0,4)=4 why(0)=2 read(0)=0 got(0,1)=-1",
             "publish(0,4,0,0)=1 read(0)=1 got(0,1)=4");
         run(begun(4, "1"), "batch(0,0,4)=0 publish(0,0..3,0,0)=1 batch(0,0,3)=4 why(0)=0 read(0)=1 got(0,1)=3",
@@ -219,12 +218,11 @@ final class TermsSentences extends Sentences {
             "place(0,0)=0 publish(0,0,0,0)=1 read(0)=1 got(0,1)=0 place(0,0)=1 read(0)=1 got(0,1)=1 place(0,0)=2",
             "read(0)=0 got(0,1)=1 place(0,0)=2");
         for (int slots : SLOTS) {
-            run(begun(slots, "2"), each(0, 2 * Math.min(slots, 40), "claim(0,#)=# publish(0,#,0,0)=1 read(0)=1 got(0,1)=#"),
-                "read(0)=0");
+            run(begun(slots, "2"), each(0, 2 * Math.min(slots, 40),
+                "claim(0,#)=# publish(0,#,0,0)=1 read(0)=1 got(0,1)=#"), "read(0)=0");
         }
         run(begun(4, "2"), post(0, 0, 0, 0, 0), "claim(0,0)=1 close(0)=1 read(0)=1 read(0)=0 publish(0,1,0,0)=1",
-            "read(0)=1",
-            "read(0)=0 got(0,1)=1");
+            "read(0)=1 read(0)=0 got(0,1)=1");
     }
 
     private void misses() {
@@ -236,8 +234,8 @@ final class TermsSentences extends Sentences {
         run(begun(2, "3"), post(0, 0, 2, 0, 0), "read(0)=1 got(0,1)=1 of(0,2..5)=2|1|0|0");
         run(begun(2, "3"), post(0, 0, 3, 0, 0), "read(0)=1 got(0,1)=2 of(0,2..5)=3|2|0|1");
         // The latest SPAN is told, and all that were MISSED; a SPAN stays if nothing more is MISSED.
-        run(begun(2, "3"), post(0, 0, 4, 0, 0), "of(0,2..5)=0|0|-1|-1 read(0)=1",
-            "of(0,2..5)=4|3|0|2", post(0, 5, 7, 0, 0),
+        run(begun(2, "3"), post(0, 0, 4, 0, 0), "of(0,2..5)=0|0|-1|-1 read(0)=1 of(0,2..5)=4|3|0|2",
+            post(0, 5, 7, 0, 0),
             "of(0,2..5)=4|3|0|2 read(0)=1 got(0,1)=6 of(0,2..5)=7|5|4|5 read(0)=1 got(0,1)=7 of(0,2..5)=8|5|4|5",
             "read(0)=0 of(0,2..5)=8|5|4|5");
         // Then as WAITS: what comes then is OPEN, and is not got, but the others are MISSED.
@@ -247,7 +245,8 @@ final class TermsSentences extends Sentences {
             run(begun(slots, "3"), post(0, 0, slots + 1, 0, 0), "read(0)=1 got(0,1)=2 of(0,2..5)=3|2|0|1");
         }
         // All of a small ring, read in time: nothing is MISSED.
-        run(begun(1, "3"), each(0, 20, "claim(0,0)=# publish(0,#,0,0)=1 read(0)=1 got(0,1)=#"), "of(0,2..5)=21|0|-1|-1");
+        run(begun(1, "3"), each(0, 20, "claim(0,0)=# publish(0,#,0,0)=1 read(0)=1 got(0,1)=#"),
+            "of(0,2..5)=21|0|-1|-1");
         run(begun(1, "3"), post(0, 0, 1, 0, 0), "close(0)=1 read(0)=1 got(0,1)=1 of(0,2..5)=2|1|0|0");
     }
 
@@ -272,8 +271,7 @@ final class TermsSentences extends Sentences {
         // Below it never is; the same; one above; two above.
         run("ring(4)=0 reader(2,0,0)=0 reader(6,0,0)=1 begin()=1 read(1)=0", post(0, 0, 2, 0, 0),
             "read(1)=0 place(1,0)=0 read(0)=1 read(1)=1 got(1,1)=0 place(1,0)=1 read(1)=0 read(0|0)=1 read(1)=1",
-            "read(1)=1",
-            "read(1)=0 place(1,0)=3 got(1,1)=2");
+            "read(1)=1 read(1)=0 place(1,0)=3 got(1,1)=2");
         // As WAITS: not made, and OPEN.
         run("ring(1)=0 reader(3,0,0)=0 reader(6,0,0)=1 begin()=1 read(1)=0 claim(0,0)=0 read(1)=0 publish(0,0,0,0)=1",
             "read(1)=0 read(0)=1 read(1)=1 got(1,1)=0");
@@ -286,7 +284,7 @@ final class TermsSentences extends Sentences {
         // The PLACE in this ring: the MERGE has read in its first ring alone, then in this one.
         run("ring(4*2)=0|1 reader(5,1,0)=0 reader(6,0,0)=1 begin()=1 claim(1,0)=0 publish(1,0,0,0)=1 claim(0,5)=0",
             "publish(0,0,0,0)=1 read(0)=1 got(0,0)=1 place(0,0|1)=0|1 read(1)=0 close(1)=1 read(0)=1 read(1)=1");
-        // The PLACE that a MISSES has, though claims are LOST to it.
+        // A MISSES that it NAMES, twice.
         run("ring(2)=0 reader(3,0,0)=0 reader(6,0,0)=1 begin()=1", post(0, 0, 1, 0, 0), "read(1)=0 read(0)=1 read(1)=1",
             "read(1)=0 read(0)=1 read(1)=1 got(1,1)=1");
     }
@@ -299,11 +297,9 @@ final class TermsSentences extends Sentences {
         run("ring(4*2)=0|1 reader(2,0,0)=0 reader(7,0,1)=1 name(1,0)=1 begin()=1", post(0, 0, 0, 0, 0),
             "read(1)=0 told(1,1)=0 read(0)=1 read(1)=1 told(1,1)=1");
         run("ring(4*2)=0|1 reader(7,0,1)=0 begin()=1", post(0, 0, 0, 0, 0), "give(1)=1 read(0)=0 told(1,1)=0",
-            "got(0,1)=-1",
-            "place(0,0)=0");
+            "got(0,1)=-1 place(0,0)=0");
         run("ring(4*2)=0|1 reader(7,0,1)=0 begin()=1", post(0, 0, 0, 0, 0), "close(1)=1 read(0)=0 told(1,1)=0",
-            "got(0,1)=-1",
-            "place(0,0)=0 give(1)=1 read(0)=0 found(0)=0");
+            "got(0,1)=-1 place(0,0)=0 give(1)=1 read(0)=0 found(0)=0");
         // HELD UP there by a claim that is OPEN, and by a HOLDER; with n one below SLOTS it isn't.
         run("ring(4)=0 ring(2)=1 reader(7,0,1)=0 begin()=1 claim(1,0)=0", post(0, 0, 1, 0, 0),
             "read(0)=1 read(0)=0 place(0,0)=1 told(1,1)=2 publish(1,0,0,0)=1 read(0)=1 told(1,1)=3");
@@ -345,16 +341,16 @@ final class TermsSentences extends Sentences {
         run("ring(4*4)=0..3 reader(5,0,1)=0 join(0,2|3)=1 begin()=1", post(0, 0, 0, 5, 0), post(1, 0, 0, 4, 0),
             "read(0)=0 give(2)=1 read(0)=0 close(3)=1 read(0)=1 got(0,0)=1");
         // CLOSED, but not all of its claims are read: one that is PUBLISHED is merged, one that is OPEN is waited for.
-        run("ring(4*2)=0|1 reader(5,0,1)=0 begin()=1", post(0, 0, 0, 5, 0), post(1, 0, 0, 4, 0), "close(1)=1",
-            "read(0)=1 got(0,0)=1 read(0)=1 got(0,0)=0 read(0)=0");
+        run("ring(4*2)=0|1 reader(5,0,1)=0 begin()=1", post(0, 0, 0, 5, 0), post(1, 0, 0, 4, 0), "close(1)=1 read(0)=1",
+            "got(0,0)=1 read(0)=1 got(0,0)=0 read(0)=0");
         run("ring(4*2)=0|1 reader(5,0,1)=0 begin()=1", post(0, 0, 0, 5, 0), "claim(1,4)=0 close(1)=1 read(0)=0",
             "publish(1,0,0,0)=1 read(0)=1 got(0,0)=1 read(0)=1 got(0,0)=0");
         // All claims of one that isn't CLOSED are read: it is waited for.
         run("ring(4*2)=0|1 reader(5,0,1)=0 begin()=1", post(0, 0, 0, 5, 0), post(1, 0, 0, 4, 0), "read(0)=1 read(0)=0",
             "give(1)=1 read(0)=1 got(0,0)=0");
 
-        sentence("If each other one has a claim PLACE that is made and PUBLISHED: of these claims the one with the least "
-            + "STAMP, of equals that of the least ring; then that PLACE is one more.");
+        sentence("If each other one has a claim PLACE that is made and PUBLISHED: of these claims the one with the "
+            + "least STAMP, of equals that of the least ring; then that PLACE is one more.");
         run("ring(4*3)=0..2 reader(5,2,1)=0 join(0,0)=1 begin()=1", post(2, 0, 0, 5, 0), post(1, 0, 0, 6, 0),
             "read(0)=0 claim(0,6)=0 read(0)=0 publish(0,0,0,0)=1 read(0)=1 got(0,0)=2 place(0,0..2)=0|0|1 read(0)=0",
             post(2, 1, 1, 6, 0), "read(0)=1 got(0,0)=0 place(0,0..2)=1|0|1 read(0)=0", post(0, 1, 1, 7, 0),
@@ -384,8 +380,8 @@ final class TermsSentences extends Sentences {
             "entry(0,0..2)=5|9|-1",
             // Claim 1 is a lesser one than 2; claim 4 is a greater one than 0; claim 3 is a lesser one than 4.
             "publish(0,1,5,1)=1 publish(0,4,9,4)=1 publish(0,3,9,3)=1 of(0,6)=2 publish(0,5,1,5)=1",
-            "entry(0,0..3)=5|9|1|-1 read(0)=1 got(0,0..4)=0|2|4|5|2 read(0)=1 got(0,0..4)=0|4|4|9|4",
-            "read(0)=1 got(0,0..4)=0|5|4|1|5 read(0)=0 of(0,6)=0");
+            "entry(0,0..3)=5|9|1|-1 read(0)=1 got(0,0..4)=0|2|4|5|2 read(0)=1 got(0,0..4)=0|4|4|9|4 read(0)=1",
+            "got(0,0..4)=0|5|4|1|5 read(0)=0 of(0,6)=0");
         // All of the claim becomes the ENTRY: STAMP, LENGTH and longs, too.
         run(begun(2, "4"), "claim(0,1)=0 fill(0,0,0..7,3)=1 publish(0,0,6,1)=1 claim(0,2)=1 fill(0,1,7,4)=1",
             "publish(0,1,6,2)=1 of(0,6)=1 read(0)=1 got(0,0..4)=0|1|2|6|2 word(0,0..7)=0|0|0|0|0|0|0|4 read(0)=0");
@@ -408,12 +404,13 @@ final class TermsSentences extends Sentences {
             "read(0)=1 got(0,3)=10 of(0,6)=2 entry(0,0..2)=11|12|-1 claim(0,0)=3 publish(0,3,10,0)=1",
             "entry(0,0..3)=11|12|10|-1 read(0)=1 got(0,1..3)=1|0|11 read(0)=1 got(0,3)=12 read(0)=1 got(0,1..3)=3|0|10",
             "of(0,6)=0 entry(0,0)=-1 read(0)=0 got(0,3)=10 of(0,8)=4");
-        run(begun(1, "4"), each(0, 31, "claim(0,0)=# publish(0,#,#,0)=1"), each(0, 31, "read(0)=1 got(0,3)=#"), "read(0)=0");
+        run(begun(1, "4"), each(0, 31, "claim(0,0)=# publish(0,#,#,0)=1"), each(0, 31, "read(0)=1 got(0,3)=#"),
+            "read(0)=0");
 
         sentence("(It has its ENTRIES, with their longs, also of claims that are LOST.)");
         run(begun(1, "4"), post(0, 0, 0, 0, 30),
-            each(1, 5, "claim(0,#)=# fill(0,#,0,4#)=1 fill(0,#,7,5#)=1 publish(0,#,#,#)=1"), "give(0)=1",
-            "read(0)=1 got(0,1)=0 word(0,0..7)=0",
+            each(1, 5, "claim(0,#)=# fill(0,#,0,4#)=1 fill(0,#,7,5#)=1 publish(0,#,#,#)=1"), "give(0)=1 read(0)=1",
+            "got(0,1)=0 word(0,0..7)=0",
             each(1, 5, "read(0)=1 got(0,1..4)=#|#|#|# word(0,0|7)=4#|5#"), "read(0)=0 found(0)=0");
     }
 
@@ -431,13 +428,12 @@ final class TermsSentences extends Sentences {
                 "claim(0,0)=" + (slots + 1));
             // The HOLDER alone: its PLACE is n - SLOTS, then one more; n is SLOTS, then one beyond.
             run(begun(slots, "2"), "batch(0,0," + slots + ")=0 publish(0," + all + ",0,0)=1 told(0,5)=1",
-                "claim(0,0)=HELD",
-                "by()=0 read(0)=1 told(0,5)=0 claim(0,0)=" + slots, "publish(0," + slots + ",0,0)=1 told(0,5)=1",
-                "claim(0,0)=HELD read(0)=1 told(0,5)=0 claim(0,0)=" + (slots + 1));
+                "claim(0,0)=HELD by()=0 read(0)=1 told(0,5)=0 claim(0,0)=" + slots, "publish(0," + slots + ",0,0)=1",
+                "told(0,5)=1 claim(0,0)=HELD read(0)=1 told(0,5)=0 claim(0,0)=" + (slots + 1));
         }
         // Far beyond.
-        run(begun(2, "2"), post(0, 0, 1, 0, 0), each(2, 40, "told(0,5)=1 claim(0,0)=HELD read(0)=1 told(0,5)=0 claim(0,0)=# "
-            + "publish(0,#,0,0)=1"));
+        run(begun(2, "2"), post(0, 0, 1, 0, 0),
+            each(2, 40, "told(0,5)=1 claim(0,0)=HELD read(0)=1 told(0,5)=0 claim(0,0)=# publish(0,#,0,0)=1"));
         // Only a HOLDER of this ring counts.
         run("ring(1*2)=0|1 reader(2,1,0)=0 begin()=1", post(0, 0, 3, 0, 0), "told(0,5)=0");
         // n below SLOTS by one.
@@ -470,8 +466,8 @@ final class TermsSentences extends Sentences {
     }
 
     private void stuck() {
-        sentence("THE POST is STUCK if it has begun, no reader is READY, there is a ring that is neither GIVEN nor CLOSED, "
-            + "and in each such ring a claim is HELD UP.");
+        sentence("THE POST is STUCK if it has begun, no reader is READY, there is a ring that is neither GIVEN nor "
+            + "CLOSED, and in each such ring a claim is HELD UP.");
         run("stuck()=0 ring(1)=0 reader(2,0,0)=0 stuck()=0 begin()=1 stuck()=0 claim(0,0)=0 stuck()=1",
             // A reader is READY; then a claim isn't HELD UP any more.
             "publish(0,0,0,0)=1 stuck()=0 read(0)=1 stuck()=0");
@@ -497,6 +493,9 @@ final class TermsSentences extends Sentences {
         // A MERGE waits for a ring that is HELD UP by another reader's claim.
         run("ring(1*2)=0|1 reader(5,0,1)=0 begin()=1", post(0, 0, 0, 0, 0), "stuck()=0 claim(1,0)=0 stuck()=1",
             "publish(1,0,0,0)=1 stuck()=0");
+        // A FOLDS is READY though its ring is GIVEN.
+        run("ring(1*2)=0|1 reader(4,0,0)=0 begin()=1", post(0, 0, 0, 0, 0), "give(0)=1 claim(1,0)=0 stuck()=0",
+            "read(0)=1 stuck()=1");
         // A GATE is READY.
         run("ring(1)=0 reader(3,0,0)=0 reader(6,0,0)=1 begin()=1", post(0, 0, 0, 0, 0), "stuck()=0 read(0)=1 stuck()=0",
             "read(1)=1 stuck()=0 claim(0,0)=1 stuck()=1");
@@ -505,8 +504,7 @@ final class TermsSentences extends Sentences {
     private void findings() {
         sentence("FINDINGS are refusals of the host that are caught: 1 MISSING (the row of a ring that is GIVEN)");
         run(allKinds(1), "begin()=1 give(0)=1 fill(0,0,0,0)=FOUND copy(0,0,0,0,0)=FOUND read(0|1|2|5|6)=FOUND",
-            "found(0..1)=1|7",
-            "found(2..6)=0");
+            "found(0..1)=1|7 found(2..6)=0");
 
         sentence("2 BEYOND (a ring, reader or long that isn't there)");
         run("ring(1)=0 begin()=1 told(1,0)=FOUND of(0,0)=FOUND read(0)=FOUND named(0,0)=FOUND entry(0,0)=FOUND",
@@ -527,30 +525,27 @@ final class TermsSentences extends Sentences {
 
         sentence("A call that says so answers FOUND then, and the FINDING is counted and is the latest one.");
         run(allKinds(1), "found(0..6)=0 ring(-1)=FOUND found(0..6)=3|0|0|1|0|0|0 target(0)=FOUND",
-            "found(0..6)=4|0|0|1|1|0|0",
-            "again()=FOUND found(0..6)=6|0|0|1|1|0|1 told(2,0)=FOUND found(0..6)=2|0|1|1|1|0|1 begin()=1 claim(1,0)=0",
-            "copy(1,0,0,9,9)=FOUND found(0..6)=5|0|1|1|1|1|1 give(0)=1 read(0)=FOUND found(0..6)=1|1|1|1|1|1|1",
-            "ring(-9)=FOUND found(0..6)=3|1|1|2|1|1|1",
+            "found(0..6)=4|0|0|1|1|0|0 again()=FOUND found(0..6)=6|0|0|1|1|0|1 told(2,0)=FOUND",
+            "found(0..6)=2|0|1|1|1|0|1 begin()=1 claim(1,0)=0 copy(1,0,0,9,9)=FOUND found(0..6)=5|0|1|1|1|1|1",
+            "give(0)=1 read(0)=FOUND found(0..6)=1|1|1|1|1|1|1 ring(-9)=FOUND found(0..6)=3|1|1|2|1|1|1",
             // A refusal that is no FINDING leaves the latest one.
             "ring(9)=NUMBER begin()=STATE claim(0,0)=GIVEN found(0..6)=3|1|1|2|1|1|1 again()=GIVEN found(6)=1");
     }
 
     private void refusedAhead() {
-        sentence("A call that is refused (answers below 0) changes nothing but what found(), again(), by() and circle() "
-            + "tell (and reading of MISSES, as told).");
+        sentence("A call that is refused (answers below 0) changes nothing but what found(), again(), by() and "
+            + "circle() tell (and reading of MISSES, as told).");
         run("ring(-1)=FOUND ring(3)=NUMBER made()=0 told(0,0)=FOUND ring(2)=0 made()=3 begin()=1 ring(2)=STATE",
-            "made()=3",
-            "told(1,0)=FOUND");
+            "made()=3 told(1,0)=FOUND");
         run("ring(1*8)=0..7 made()=16 ring(64)=FULL made()=16 told(7|8,0)=1|FOUND");
         run("ring(1*2)=0|1 reader(0,0,0)=NUMBER reader(6,0,0)=NUMBER reader(4,2,0)=NUMBER made()=4 reader(1,0,0)=0",
             "reader(6,0,0)=KIND made()=5 told(0,4)=0 reader(2,0,0)=1 begin()=1 reader(2,0,0)=STATE told(0,4)=1",
-            "made()=6",
-            "of(2,0)=FOUND");
+            "made()=6 of(2,0)=FOUND");
         run("ring(1)=0 reader(2*16,0,0)=0..15 reader(2,0,0)=FULL told(0,4)=16 made()=18 of(16,0)=FOUND");
         run("ring(4*6)=0..5 reader(5,0,1)=0 reader(2,2,0)=1 join(0,6)=NUMBER join(1,0)=KIND join(0,1)=THERE",
-            "join(0,2|3)=1",
-            "join(0,4)=FULL place(0,0..5)=0|0|0|0|-1|-1 place(1,0..5)=-1|-1|0|-1|-1|-1 told(4,4)=0 begin()=1",
-            "join(0,5)=STATE place(0,5)=-1 told(5,4)=0", post(0, 0, 0, 0, 0), post(1, 0, 0, 0, 0), post(2, 0, 0, 0, 0),
+            "join(0,2|3)=1 join(0,4)=FULL place(0,0..5)=0|0|0|0|-1|-1 place(1,0..5)=-1|-1|0|-1|-1|-1 told(4,4)=0",
+            "begin()=1 join(0,5)=STATE place(0,5)=-1 told(5,4)=0", post(0, 0, 0, 0, 0), post(1, 0, 0, 0, 0),
+            post(2, 0, 0, 0, 0),
             post(3, 0, 0, 0, 0), "read(0)=1");
         run("ring(4)=0 reader(2*6,0,0)=0..5 reader(6,0,0)=6 reader(6,0,6)=7 name(6,8)=NUMBER name(0,1)=KIND",
             "name(6,0|6)=THERE name(6,7)=CIRCLE of(6,7)=1 name(6,1|2|3)=1 name(6,4)=FULL of(6|0,7)=4|0",
@@ -571,9 +566,9 @@ final class TermsSentences extends Sentences {
         // A claim that is OPEN keeps its longs, and is OPEN and without an ENTRY yet.
         run(begun(2, "2|4"), "batch(0,0,2)=0 fill(0,0,0..7,5)=1 fill(0,0,-1|8,9)=FOUND fill(0,2,0,9)=NOT",
             "fill(1,0,0,9)=NUMBER copy(0,0,0,0,9)=FOUND copy(0,0,0,-1,3)=FOUND copy(0,0,2,0,8)=NUMBER",
-            "copy(0,2,0,0,8)=NOT publish(0,0,32,0)=NUMBER publish(0,0,0,9)=NUMBER publish(0,2,0,0)=NOT",
-            "told(0,2)=2 of(1,6)=0 read(0)=0 publish(0,0,7,2)=1 publish(0,0,8,3)=NOT fill(0,0,0,9)=NOT",
-            "copy(0,0,1,0,8)=NOT of(1,6)=1 entry(1,0)=7 read(0|1)=1 word(0|1,0..7)=5 got(0,3..4)=7|2 got(1,3..4)=7|2");
+            "copy(0,2,0,0,8)=NOT publish(0,0,32,0)=NUMBER publish(0,0,0,9)=NUMBER publish(0,2,0,0)=NOT told(0,2)=2",
+            "of(1,6)=0 read(0)=0 publish(0,0,7,2)=1 publish(0,0,8,3)=NOT fill(0,0,0,9)=NOT copy(0,0,1,0,8)=NOT",
+            "of(1,6)=1 entry(1,0)=7 read(0|1)=1 word(0|1,0..7)=5 got(0,3..4)=7|2 got(1,3..4)=7|2");
         // A ring that isn't given back is there as before, one that isn't closed again, too.
         run(begun(2, "2"), "claim(0,0)=0 give(0)=HELD told(0,6)=0 fill(0,0,0,1)=1 publish(0,0,0,0)=1 give(0)=HELD",
             "told(0,6)=0 claim(0,0)=1 close(0)=1 close(0)=CLOSED told(0,6)=1 publish(0,1,0,0)=1 read(0)=1 word(0,0)=1",
@@ -591,18 +586,16 @@ final class TermsSentences extends Sentences {
         for (int kind : new int[] {1, 2, 6, 7}) {
             run("ring(2*2)=0|1 reader(3,0,0)=0 reader(" + kind + ",0," + (kind == 6 ? 0 : 1) + ")=1 begin()=1",
                 post(0, 0, 0, 4, 5), "read(0|1)=1 told(1,1)=" + (kind == 7 ? 1 : 0) + " give(0)=1 read(1)=FOUND",
-                "of(1,8)=1",
-                "place(1,0)=" + (kind == 1 ? -1 : 1) + " got(1,0..4)=0|0|4|5|0 of(1,3..5)=0|-1|-1",
+                "of(1,8)=1 place(1,0)=" + (kind == 1 ? -1 : 1) + " got(1,0..4)=0|0|4|5|0 of(1,3..5)=0|-1|-1",
                 "told(1,1)=" + (kind == 7 ? 1 : 0) + " read(2|-1)=FOUND of(0|1,8)=1");
         }
         // Reading of MISSES, as told: PLACE, SPAN and what was MISSED.
         run(begun(2, "3"), post(0, 0, 2, 4, 5), "read(0)=1 got(0,1)=1 give(0)=1 read(0)=FOUND of(0,2..5)=3|2|2|2",
-            "of(0,8)=1",
-            "got(0,0..4)=0|1|4|5|0");
+            "of(0,8)=1 got(0,0..4)=0|1|4|5|0");
     }
 
     private void firstRefusal() {
-        sentence("Of several refusals that a call names the first one named is answered.");
+        sentence(FIRST_NAMED);
         // Each call has all the pairs of its refusals under its promise; here is one pair of each.
         run("ring(1*8)=0..7 ring(-1)=FOUND ring(3)=NUMBER reader(6,0,0)=NUMBER reader(1,0,0)=0 reader(6,0,0)=KIND",
             "join(0,8)=NUMBER join(0,0)=KIND name(0,0)=KIND claim(8,0)=NUMBER batch(0,0,2)=NUMBER fill(8,0,0,0)=NUMBER",

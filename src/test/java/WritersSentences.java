@@ -40,8 +40,7 @@ final class WritersSentences extends Sentences {
         section("promise 9");
         sentence("A claim is made: its number.");
         run(begun(2, "2"), "claim(0,3)=0 told(0,1..2)=1|1 last(0)=3 claim(0,3)=1 told(0,1..2)=2|2 publish(0,0,0,0)=1",
-            "read(0)=1",
-            "claim(0,4)=2 told(0,1..2)=3|2 last(0)=4");
+            "read(0)=1 claim(0,4)=2 told(0,1..2)=3|2 last(0)=4");
         run(EIGHT_RINGS, "claim(0..7,0)=0 claim(0..7,0)=1 told(0..7,1)=2");
         // Past the end of each ring.
         for (int slots : SLOTS) {
@@ -61,33 +60,33 @@ final class WritersSentences extends Sentences {
         sentence("GIVEN; CLOSED;");
         run(begun(1, "1"), "give(0)=1 claim(0,0)=GIVEN told(0,1)=0");
         run(begun(1, "1"), "close(0)=1 claim(0,0)=CLOSED told(0,1)=0");
-        // GIVEN ahead of CLOSED and FALLS; CLOSED ahead of FALLS and HELD; NUMBER ahead of STATE.
-        run(GIVEN_AT_FIVE, "claim(0,5)=GIVEN claim(0,4)=GIVEN");
-        run(begun(1, "1"), "claim(0,5)=0 claim(0,5)=HELD close(0)=1 claim(0,4)=CLOSED claim(0,5)=CLOSED",
-            "claim(0,6)=CLOSED");
-        run("ring(1)=0 claim(1,0)=NUMBER claim(-1,0)=NUMBER claim(0,0)=STATE");
 
         sentence("FALLS: stamp is below LAST (if there was a claim);");
         // One below LAST, the same, one above; before the first claim any stamp will do.
         run(begun(8, "1"), "claim(0,5)=0 claim(0,4)=FALLS told(0,1)=1 last(0)=5 claim(0,5)=1 claim(0,6)=2",
-            "claim(0,5)=FALLS last(0)=6",
-            "claim(0,MIN)=FALLS claim(0,MAX)=3 claim(0,9223372036854775806)=FALLS claim(0,MAX)=4");
+            "claim(0,5)=FALLS last(0)=6 claim(0,MIN)=FALLS claim(0,MAX)=3 claim(0,9223372036854775806)=FALLS",
+            "claim(0,MAX)=4");
         run(begun(8, "1"), "claim(0,-1)=0 last(0)=-1 claim(0,-2)=FALLS claim(0,-1)=1 claim(0,0)=2");
         run(begun(8, "1"), "claim(0,MIN)=0 claim(0,MIN)=1 claim(0,-9223372036854775807)=2 claim(0,MIN)=FALLS");
         // LAST of this ring, not of another one; a refused claim's stamp is none.
         run("ring(1*2)=0|1 begin()=1 claim(0,9)=0 claim(0,99)=HELD claim(1,3)=0 publish(0,0,0,0)=1 claim(0,10)=1");
-        // FALLS ahead of HELD.
-        run(begun(1, "2"), "claim(0,5)=0 claim(0,4)=FALLS by()=-1 claim(0,5)=HELD by()=0");
 
         sentence("HELD.");
         run(begun(2, "2"), "claim(0,0)=0 claim(0,0)=1 claim(0,0)=HELD told(0,1)=2 publish(0,0,0,0)=1 claim(0,0)=HELD",
-            "read(0)=1",
-            "claim(0,0)=2 claim(0,0)=HELD");
+            "read(0)=1 claim(0,0)=2 claim(0,0)=HELD");
         for (int slots : SLOTS) {
             run(begun(slots, "1"), each(0, slots - 1, "claim(0,0)=#"), "claim(0,0)=HELD publish(0,0,0,0)=1",
                 "claim(0,0)=" + slots,
                 "claim(0,0)=HELD");
         }
+
+        firstNamed();
+        // NUMBER ahead of STATE; GIVEN ahead of CLOSED and FALLS; CLOSED ahead of FALLS and HELD; FALLS ahead of HELD.
+        run("ring(1)=0 claim(1,0)=NUMBER claim(-1,0)=NUMBER claim(0,0)=STATE");
+        run(GIVEN_AT_FIVE, "claim(0,5)=GIVEN claim(0,4)=GIVEN");
+        run(begun(1, "1"), "claim(0,5)=0 claim(0,5)=HELD close(0)=1 claim(0,4)=CLOSED claim(0,5)=CLOSED",
+            "claim(0,6)=CLOSED");
+        run(begun(1, "2"), "claim(0,5)=0 claim(0,4)=FALLS by()=-1 claim(0,5)=HELD by()=0");
     }
 
     private void batch() {
@@ -114,8 +113,7 @@ final class WritersSentences extends Sentences {
         run(EIGHT_RINGS, "batch(-1|8,0,1)=NUMBER batch(0|7,0,2)=0 told(0|7,1)=2");
         for (int slots : SLOTS) {
             run(begun(slots, "1"), "batch(0,0,MIN|-1|0|" + (slots + 1) + "|" + (2 * slots + 1) + "|MAX)=NUMBER",
-                "told(0,1)=0",
-                "batch(0,0," + slots + ")=0 told(0,1)=" + slots);
+                "told(0,1)=0 batch(0,0," + slots + ")=0 told(0,1)=" + slots);
             run(begun(slots, "1"), "batch(0,0,1)=0 told(0,1)=1");
         }
 
@@ -128,13 +126,14 @@ final class WritersSentences extends Sentences {
         run(begun(8, "1"), "batch(0,5,2)=0 batch(0,4,1)=FALLS batch(0,MIN,2)=FALLS last(0)=5 told(0,1)=2",
             "batch(0,5,2)=2 batch(0,6,1)=4");
         run(begun(8, "1"), "batch(0,-3,2)=0 batch(0,-4,1)=FALLS batch(0,-3,1)=2");
-        // NUMBER ahead of all; STATE ahead of all others; GIVEN ahead of CLOSED and FALLS; CLOSED ahead of FALLS and HELD;
-        // FALLS ahead of HELD.
+
+        firstNamed();
+        // NUMBER ahead of all; STATE ahead of all others; GIVEN ahead of CLOSED and FALLS; CLOSED ahead of FALLS and
+        // HELD; FALLS ahead of HELD.
         run("ring(1)=0 batch(0,0,0|2)=NUMBER batch(1,0,1)=NUMBER batch(0,0,1)=STATE");
         run(GIVEN_AT_FIVE, "batch(0,5,1)=GIVEN batch(0,4,1)=GIVEN batch(0,4,0|2)=NUMBER");
         run(begun(1, "2"), "batch(0,5,1)=0 batch(0,4,2)=NUMBER batch(0,4,1)=FALLS by()=-1 batch(0,5,1)=HELD by()=0",
-            "close(0)=1",
-            "batch(0,4,1)=CLOSED batch(0,5,1)=CLOSED batch(0,5,0)=NUMBER");
+            "close(0)=1 batch(0,4,1)=CLOSED batch(0,5,1)=CLOSED batch(0,5,0)=NUMBER");
     }
 
     private void batchHeld() {
@@ -146,14 +145,15 @@ final class WritersSentences extends Sentences {
         }
         // By a HOLDER: so many are free as it has read.
         for (int read = 0; read < 4; read++) {
-            run(begun(4, "2"), "batch(0,0,4)=0",
-                "publish(0,0..3,0,0)=1", each(1, read, "read(0)=1 place(0,0)=#") + "by()=-1",
-                "batch(0,0," + (read + 1) + ")=HELD by()=0 told(0,1)=4", read == 0 ? "" : "batch(0,0," + read + ")=4");
+            run(begun(4, "2"), "batch(0,0,4)=0 publish(0,0..3,0,0)=1",
+                each(1, read, "read(0)=1 place(0,0)=#") + "by()=-1 batch(0,0," + (read + 1) + ")=HELD by()=0",
+                "told(0,1)=4", read == 0 ? "" : "batch(0,0," + read + ")=4");
         }
-        // BY of the first one that is HELD UP, not of one behind it: PLACES are 3, 1 and 2, then 3, 4 and 2, then 3, 4 and 4.
+        // BY of the first one that is HELD UP, not of one behind it: PLACES are 3, 1 and 2, then 3, 4 and 2, then 3, 4
+        // and 4.
         run(begun(4, "2|2|2"), "batch(0,0,4)=0 publish(0,0..3,0,0)=1 read(0*3)=1 read(1)=1 read(2*2)=1",
-            "batch(0,0,4)=HELD by()=1",
-            "read(1*3)=1 batch(0,0,4)=HELD by()=2 read(2*2)=1 batch(0,0,4)=HELD by()=0 read(0)=1 batch(0,0,4)=4");
+            "batch(0,0,4)=HELD by()=1 read(1*3)=1 batch(0,0,4)=HELD by()=2 read(2*2)=1 batch(0,0,4)=HELD by()=0",
+            "read(0)=1 batch(0,0,4)=4");
         // The second of two, by a HOLDER and then by a claim that is OPEN, too; at last the first of two.
         run(begun(2, "2|1"), post(0, 0, 0, 0, 0), "read(0)=1 claim(0,0)=1 publish(0,1,0,0)=1 batch(0,0,2)=HELD by()=0",
             "read(0)=1 claim(0,0)=2 batch(0,0,2)=HELD by()=0 claim(0,0)=3 batch(0,0,2)=HELD by()=0");
@@ -168,23 +168,20 @@ final class WritersSentences extends Sentences {
     private void by() {
         section("promise 11");
         sentence("BY of the latest claim() or batch() that answered HELD;");
-        run(begun(1, "1|2|2"), post(0, 0, 0, 0, 0), "claim(0,0)=HELD by()=1 by()=1 read(1)=1 by()=1",
-            "batch(0,0,1)=HELD by()=2",
+        run(begun(1, "1|2|2"), post(0, 0, 0, 0, 0), "claim(0,0)=HELD by()=1 by()=1 read(1)=1 by()=1 batch(0,0,1)=HELD",
+            "by()=2",
             // Other refusals of them, claims that are made, and HELD of give() leave it.
             "claim(0,-1)=FALLS by()=2 claim(1,0)=NUMBER batch(0,0,2)=NUMBER by()=2 give(0)=HELD by()=2 read(2)=1",
-            "claim(0,0)=1 by()=2",
-            "told(0,5)=1 by()=2 claim(0,0)=HELD by()=1 close(0)=1 claim(0,0)=CLOSED by()=1");
+            "claim(0,0)=1 by()=2 told(0,5)=1 by()=2 claim(0,0)=HELD by()=1 close(0)=1 claim(0,0)=CLOSED by()=1");
         run("ring(1*2)=0|1 reader(2,0,0)=0 begin()=1", post(0, 0, 0, 0, 0), "claim(0,0)=HELD by()=0 claim(1,0)=0",
-            "batch(1,0,1)=HELD by()=-1",
-            "batch(0,0,1)=HELD by()=0 claim(1,0)=HELD by()=-1");
+            "batch(1,0,1)=HELD by()=-1 batch(0,0,1)=HELD by()=0 claim(1,0)=HELD by()=-1");
         // The greatest reader.
         run("ring(1)=0 reader(1*15,0,0)=0..14 reader(2,0,0)=15 begin()=1", post(0, 0, 0, 0, 0), "claim(0,0)=HELD",
             "by()=15");
 
         sentence("-1 if there was none.");
         run("by()=-1 ring(1)=0 reader(2,0,0)=0 begin()=1 by()=-1 claim(0,5)=0 claim(0,4)=FALLS claim(1,0)=NUMBER",
-            "by()=-1 give(0)=HELD",
-            "told(0,5)=1 by()=-1");
+            "by()=-1 give(0)=HELD told(0,5)=1 by()=-1");
         // An ECHO that waits for its TARGET asks neither claim() nor batch().
         run("ring(1*2)=0|1 reader(7,0,1)=0 reader(2,1,0)=1 begin()=1", post(0, 0, 0, 0, 0), post(1, 0, 0, 0, 0),
             "read(0)=0 why(0)=5 by()=-1 again()=FOUND");
@@ -200,37 +197,32 @@ final class WritersSentences extends Sentences {
                 String.format(call, 0, 5) + "=HELD again()=HELD", String.format(call, 0, 4) + "=FALLS again()=FALLS",
                 "close(0)=1",
                 String.format(call, 0, 5) + "=CLOSED again()=CLOSED give(1)=1", String.format(call, 1, 0) + "=GIVEN",
-                "again()=GIVEN",
-                "found(0..6)=0 told(0,1)=1");
+                "again()=GIVEN found(0..6)=0 told(0,1)=1");
         }
         // Refusals of all other calls leave it; it is refused once more, and nothing is claimed by it.
         run(begun(2, "2"), "claim(0,5)=0 claim(0,4)=FALLS ring(3)=NUMBER ring(-1)=FOUND reader(8,0,0)=NUMBER",
-            "join(0,1)=NUMBER",
-            "name(1,0)=NUMBER begin()=STATE fill(0,1,0,0)=NOT fill(0,0,8,0)=FOUND copy(0,0,0,0,9)=FOUND",
-            "publish(0,1,0,0)=NOT",
-            "close(1)=NUMBER give(0)=HELD read(1)=FOUND why(1)=NUMBER told(0,7)=NUMBER again()=FALLS",
-            "told(0,1)=1 claim(0,6)=1 again()=FALLS told(0,1)=2");
+            "join(0,1)=NUMBER name(1,0)=NUMBER begin()=STATE fill(0,1,0,0)=NOT fill(0,0,8,0)=FOUND",
+            "copy(0,0,0,0,9)=FOUND publish(0,1,0,0)=NOT close(1)=NUMBER give(0)=HELD read(1)=FOUND why(1)=NUMBER",
+            "told(0,7)=NUMBER again()=FALLS told(0,1)=1 claim(0,6)=1 again()=FALLS told(0,1)=2");
 
         sentence("FOUND: NONE: there was none yet.");
         run("again()=FOUND found(0)=6 found(6)=1 again()=FOUND found(6)=2 ring(1)=0 ring(-1)=FOUND begin()=1",
-            "begin()=STATE",
-            "claim(0,0)=0 publish(0,5,0,0)=NOT again()=FOUND found(0)=6 found(6)=3 claim(0,0)=HELD again()=HELD",
-            "found(6)=3");
+            "begin()=STATE claim(0,0)=0 publish(0,5,0,0)=NOT again()=FOUND found(0)=6 found(6)=3 claim(0,0)=HELD",
+            "again()=HELD found(6)=3");
     }
 
     private void fill() {
         section("promise 13");
         sentence("Long i of a claim that is OPEN is v: 1.");
         run(begun(2, "2"), "batch(0,0,2)=0", each(0, 7, "fill(0,0,#,10#)=1"), "fill(0,0,3,MIN)=1 fill(0,1,0,MAX)=1",
-            "fill(0,1,7,-1)=1",
-            "publish(0,0|1,0,0)=1 read(0)=1 word(0,0..7)=100|101|102|MIN|104|105|106|107 read(0)=1",
+            "fill(0,1,7,-1)=1 publish(0,0|1,0,0)=1 read(0)=1 word(0,0..7)=100|101|102|MIN|104|105|106|107 read(0)=1",
             "word(0,0..7)=MAX|0|0|0|0|0|0|-1");
         // The last fill counts, whatever LENGTH is told then; and of several claims each has its own longs.
         run(begun(4, "2"), "batch(0,0,4)=0 fill(0,3,0,3)=1 fill(0,2,0,2)=1 fill(0,1,0,1)=1 fill(0,0,0,9)=1",
-            "fill(0,0,0,8)=1",
-            "publish(0,0..3,0,0)=1", "read(0)=1 word(0,0)=8", each(1, 3, "read(0)=1 word(0,0)=#"));
+            "fill(0,0,0,8)=1 publish(0,0..3,0,0)=1", "read(0)=1 word(0,0)=8", each(1, 3, "read(0)=1 word(0,0)=#"));
         // Past the ring's end.
-        run(begun(2, "2"), each(0, 9, "claim(0,0)=# fill(0,#,7,#)=1 publish(0,#,0,0)=1 read(0)=1 word(0,7)=# word(0,6)=0"));
+        run(begun(2, "2"),
+            each(0, 9, "claim(0,0)=# fill(0,#,7,#)=1 publish(0,#,0,0)=1 read(0)=1 word(0,7)=# word(0,6)=0"));
         run(EIGHT_RINGS, "claim(0|7,0)=0 fill(0|7,0,0|7,5)=1");
     }
 
@@ -248,24 +240,22 @@ final class WritersSentences extends Sentences {
 
         sentence("NOT: q is no claim that is OPEN;");
         run(begun(4, "1"), "fill(0,MIN|-1|0|1|MAX,0,0)=NOT batch(0,0,3)=0 fill(0,MIN|-4|-1|3|4|MAX,0,0)=NOT",
-            "fill(0,0|2,0,0)=1",
-            "publish(0,1,0,0)=1 fill(0,1,0,0)=NOT found(0)=0");
+            "fill(0,0|2,0,0)=1 publish(0,1,0,0)=1 fill(0,1,0,0)=NOT found(0)=0");
         // Claims that are LOST: their slots have other claims, which are OPEN.
         run(begun(2, "1"), post(0, 0, 1, 0, 0), "batch(0,0,2)=2 fill(0,0|1,0,7)=NOT fill(0,4|5,0,7)=NOT",
-            "publish(0,2|3,0,0)=1 read(0)=1",
-            "word(0,0)=0");
+            "publish(0,2|3,0,0)=1 read(0)=1 word(0,0)=0");
         // A ring that is CLOSED has claims that are OPEN.
         run(begun(1, "2"), "claim(0,0)=0 close(0)=1 fill(0,0,0,6)=1 publish(0,0,0,0)=1 fill(0,0,0,7)=NOT read(0)=1",
             "word(0,0)=6");
 
         sentence("FOUND: BEYOND: i isn't 0 .. 7.");
         run(begun(1, "2"), "claim(0,0)=0 fill(0,0,0|7,4)=1 found(0)=0 fill(0,0,MIN|-1|8|9|MAX,5)=FOUND",
-            "found(0..2)=2|0|5",
-            "publish(0,0,0,0)=1 read(0)=1 word(0,0..7)=4|0|0|0|0|0|0|4");
+            "found(0..2)=2|0|5 publish(0,0,0,0)=1 read(0)=1 word(0,0..7)=4|0|0|0|0|0|0|4");
+
+        firstNamed();
         // NUMBER, STATE, MISSING, NOT and BEYOND each ahead of the others behind it.
         run("ring(1)=0 fill(1,0,8,0)=NUMBER fill(0,0,8,0)=STATE found(0)=0 begin()=1 fill(1,0,8,0)=NUMBER",
-            "fill(0,0,8,0)=NOT found(0)=0",
-            "give(0)=1 fill(1,0,8,0)=NUMBER fill(0,0,8,0)=FOUND found(0..2)=1|1|0");
+            "fill(0,0,8,0)=NOT found(0)=0 give(0)=1 fill(1,0,8,0)=NUMBER fill(0,0,8,0)=FOUND found(0..2)=1|1|0");
     }
 
     /** Reader 0 got a claim of ring 0 with longs 10 .. 17, and claim 1 there is OPEN with longs 90 .. 97. */
@@ -291,24 +281,22 @@ final class WritersSentences extends Sentences {
         run(withLongs(), "copy(0,1,1,0,8)=1 publish(0,1,0,0)=1 read(0)=1 word(0,0..7)=0");
         run(withLongs(), "copy(0,1,1,5,3)=1 publish(0,1,0,0)=1 read(0)=1 word(0,0..7)=0|0|0|93|94|95|96|97");
         // What is copied stays what it was when it was copied; the reader keeps what it got.
-        run(withLongs(), "copy(0,1,0,0,8)=1 fill(0,1,0,77)=1 word(0,0..7)=10..17 copy(0,2,0,0,8)=1",
-            "publish(0,1,0,0)=1 read(0)=1",
-            "word(0,0..7)=77|11..17 publish(0,2,0,0)=1 read(0)=1 word(0,0..7)=10..17");
+        run(withLongs(), "copy(0,1,0,0,8)=1 fill(0,1,0,77)=1 word(0,0..7)=10..17 copy(0,2,0,0,8)=1 publish(0,1,0,0)=1",
+            "read(0)=1 word(0,0..7)=77|11..17 publish(0,2,0,0)=1 read(0)=1 word(0,0..7)=10..17");
         // To another ring; by the least and the greatest ring and reader.
         run("ring(2*8)=0..7 reader(2*15,0,0)=0..14 reader(2,7,0)=15 begin()=1 claim(0,0)=0 fill(0,0,7,5)=1",
-            "publish(0,0,0,0)=1 read(0)=1",
-            "claim(7,0)=0 copy(7,0,0,7,1)=1 publish(7,0,0,0)=1 read(15)=1 word(15,0..7)=5|0|0|0|0|0|0|0 claim(0,0)=1",
-            "copy(0,1,15,0,2)=1 publish(0,1,0,0)=1 read(0)=1 word(0,0..7)=5|0|0|0|0|0|0|0");
+            "publish(0,0,0,0)=1 read(0)=1 claim(7,0)=0 copy(7,0,0,7,1)=1 publish(7,0,0,0)=1 read(15)=1",
+            "word(15,0..7)=5|0|0|0|0|0|0|0 claim(0,0)=1 copy(0,1,15,0,2)=1 publish(0,1,0,0)=1 read(0)=1",
+            "word(0,0..7)=5|0|0|0|0|0|0|0");
     }
 
     private void copyRefusals() {
         sentence("NUMBER: there is no such ring, no such reader;");
         run("copy(0,0,0,0,0)=NUMBER ring(1*2)=0|1 copy(0,0,0,0,0)=NUMBER reader(2*2,0,0)=0|1 begin()=1 claim(0|1,0)=0",
-            "copy(" + NO_RING_OF_TWO + ",0,0,0,1)=NUMBER copy(0,0,MIN|-1|2|15|16|MAX,0,1)=NUMBER",
-            "copy(0|1,0,0|1,0,1)=1 found(0)=0");
+            "copy(" + NO_RING_OF_TWO + ",0,0,0,1)=NUMBER copy(0,0,MIN|-1|2|15|16|MAX,0,1)=NUMBER copy(0|1,0,0|1,0,1)=1",
+            "found(0)=0");
         run("ring(1*8)=0..7 reader(1*16,0,0)=0..15 begin()=1 claim(0|7,0)=0 copy(-1|8,0,0,0,1)=NUMBER",
-            "copy(0|7,0,-1|16,0,1)=NUMBER",
-            "copy(0|7,0,0|15,0,8)=1");
+            "copy(0|7,0,-1|16,0,1)=NUMBER copy(0|7,0,0|15,0,8)=1");
 
         sentence("STATE: the post has not begun;");
         run("ring(1)=0 reader(1,0,0)=0 copy(0,0,0,0,1)=STATE begin()=1 claim(0,0)=0 copy(0,0,0,0,1)=1");
@@ -317,16 +305,17 @@ final class WritersSentences extends Sentences {
         run(begun(1, "1"), "give(0)=1 copy(0,0,0,0,1)=FOUND found(0..1)=1|1 found(5)=0");
         // The reader's ring may be GIVEN.
         run("ring(1*2)=0|1 reader(2,1,0)=0 reader(2,0,0)=1 begin()=1 claim(1,0)=0 fill(1,0,2,3)=1 publish(1,0,0,0)=1",
-            "read(0)=1 give(1)=1",
-            "claim(0,0)=0 copy(0,0,0,2,1)=1 publish(0,0,0,0)=1 read(1)=1 word(1,0)=3");
+            "read(0)=1 give(1)=1 claim(0,0)=0 copy(0,0,0,2,1)=1 publish(0,0,0,0)=1 read(1)=1 word(1,0)=3");
 
         sentence("NOT: q is no claim that is OPEN;");
         run(begun(4, "1"), "copy(0,MIN|-1|0|1|MAX,0,0,1)=NOT batch(0,0,3)=0 copy(0,MIN|-4|-1|3|4|MAX,0,0,1)=NOT",
-            "copy(0,0|2,0,0,1)=1",
-            "publish(0,1,0,0)=1 copy(0,1,0,0,1)=NOT copy(0,1,0,0,0)=NOT found(0)=0");
+            "copy(0,0|2,0,0,1)=1 publish(0,1,0,0)=1 copy(0,1,0,0,1)=NOT copy(0,1,0,0,0)=NOT found(0)=0");
         run(begun(2, "1|1"), "claim(0,0)=0 fill(0,0,0,6)=1 publish(0,0,0,0)=1 read(0)=1 claim(0,0)=1",
-            "publish(0,1,0,0)=1 batch(0,0,2)=2",
-            "copy(0,0|1,0,0,8)=NOT copy(0,4|5,0,0,8)=NOT publish(0,2|3,0,0)=1 read(1)=1 word(1,0)=0");
+            "publish(0,1,0,0)=1 batch(0,0,2)=2 copy(0,0|1,0,0,8)=NOT copy(0,4|5,0,0,8)=NOT publish(0,2|3,0,0)=1",
+            "read(1)=1 word(1,0)=0");
+        // A ring that is CLOSED has claims that are OPEN.
+        run(withLongs(), "close(0)=1 copy(0,1,0,0,8)=1 publish(0,1,0,0)=1 copy(0,1,0,0,8)=NOT read(0)=1",
+            "word(0,0..7)=10..17");
     }
 
     private void copyBounds() {
@@ -335,29 +324,27 @@ final class WritersSentences extends Sentences {
             "copy(0,1,0,0|8|MAX,MIN)=FOUND found(0)=5 found(5)=15 publish(0,1,0,0)=1 read(0)=1 word(0,0..7)=90..97");
         // Above 8 by one, with each from; and 8 itself.
         run(withLongs(), each(0, 8, "copy(0,1,0,#,9)=FOUND"), "copy(0,1,0,8,1)=FOUND copy(0,1,0,7,2)=FOUND",
-            "copy(0,1,0,6,3)=FOUND",
-            "copy(0,1,0,5,4)=FOUND copy(0,1,0,4,5)=FOUND copy(0,1,0,3,6)=FOUND copy(0,1,0,2,7)=FOUND",
-            "copy(0,1,0,1,8)=FOUND",
-            "copy(0,1,0,9,0)=FOUND found(5)=18 copy(0,1,0,8,0)=1 copy(0,1,0,7,1)=1 found(5)=18");
+            "copy(0,1,0,6,3)=FOUND copy(0,1,0,5,4)=FOUND copy(0,1,0,4,5)=FOUND copy(0,1,0,3,6)=FOUND",
+            "copy(0,1,0,2,7)=FOUND copy(0,1,0,1,8)=FOUND copy(0,1,0,9,0)=FOUND found(5)=18 copy(0,1,0,8,0)=1",
+            "copy(0,1,0,7,1)=1 found(5)=18");
         // By whole numbers without end: sums that would wrap around.
         run(withLongs(), "copy(0,1,0,MAX,MAX)=FOUND copy(0,1,0,MAX,0|1|2|8)=FOUND copy(0,1,0,0|1|2|8,MAX)=FOUND",
             "copy(0,1,0,8,2147483640)=FOUND copy(0,1,0,2147483640,8)=FOUND copy(0,1,0,1073741824,1073741824)=FOUND",
-            "found(5)=12",
-            "found(1|2|3|4|6)=0 publish(0,1,0,0)=1 read(0)=1 word(0,0..7)=90..97");
+            "found(5)=12 found(1|2|3|4|6)=0 publish(0,1,0,0)=1 read(0)=1 word(0,0..7)=90..97");
+
+        firstNamed();
         // NUMBER, STATE, MISSING, NOT and COPY each ahead of the others behind it.
         run("ring(1)=0 reader(1,0,0)=0 copy(1,0,0,0,9)=NUMBER copy(0,0,1,0,9)=NUMBER copy(0,0,0,0,9)=STATE begin()=1",
             "copy(1,0,0,0,9)=NUMBER copy(0,0,1,0,9)=NUMBER copy(0,0,0,0,9)=NOT found(0)=0 give(0)=1",
-            "copy(0,0,1,0,9)=NUMBER",
-            "copy(0,0,0,0,9)=FOUND found(0)=1 found(5)=0");
+            "copy(0,0,1,0,9)=NUMBER copy(0,0,0,0,9)=FOUND found(0)=1 found(5)=0");
     }
 
     private void publish() {
         section("promise 15");
         sentence("A claim that is OPEN is PUBLISHED: 1.");
         run(begun(4, "2|1|4"), "batch(0,5,4)=0 publish(0,2,31,8)=1 told(0,2)=3 read(0)=0 read(1)=1",
-            "got(1,1..4)=2|5|31|8 entry(2,0)=31",
-            "publish(0,0,7,5)=1 told(0,2)=2 read(0)=1 got(0,1..4)=0|5|7|5 publish(0,3,0,0)=1 publish(0,1,1,1)=1",
-            "told(0,2)=0",
+            "got(1,1..4)=2|5|31|8 entry(2,0)=31 publish(0,0,7,5)=1 told(0,2)=2 read(0)=1 got(0,1..4)=0|5|7|5",
+            "publish(0,3,0,0)=1 publish(0,1,1,1)=1 told(0,2)=0",
             each(1, 3, "read(0)=1 got(0,1)=#"), "of(2,6)=4");
         // Of a ring that is CLOSED, too; and in the slots of claims that are LOST.
         run(begun(1, "2"), "claim(0,0)=0 close(0)=1 publish(0,0,3,3)=1 read(0)=1 got(0,3..4)=3|3");
@@ -367,13 +354,11 @@ final class WritersSentences extends Sentences {
     private void publishRefusals() {
         sentence("NUMBER: there is no such ring, key isn't 0 .. 31, length not 0 .. 8;");
         run("publish(0,0,0,0)=NUMBER ring(1*2)=0|1 begin()=1 claim(0|1,0)=0",
-            "publish(" + NO_RING_OF_TWO + ",0,0,0)=NUMBER",
-            "told(0|1,2)=1 publish(0|1,0,0,0)=1");
+            "publish(" + NO_RING_OF_TWO + ",0,0,0)=NUMBER told(0|1,2)=1 publish(0|1,0,0,0)=1");
         run(EIGHT_RINGS, "claim(0|7,0)=0 publish(-1|8,0,0,0)=NUMBER publish(0|7,0,0,0)=1");
         run(begun(1, "2|4"), "claim(0,0)=0 publish(0,0,MIN|-1|32|33|MAX,0)=NUMBER",
-            "publish(0,0,0|31,MIN|-1|9|10|MAX)=NUMBER told(0,2)=1",
-            "of(1,6)=0 publish(0,0,0,0)=1 read(0|1)=1 got(0,3..4)=0|0 claim(0,0)=1 publish(0,1,31,8)=1 read(0|1)=1",
-            "got(1,3..4)=31|8");
+            "publish(0,0,0|31,MIN|-1|9|10|MAX)=NUMBER told(0,2)=1 of(1,6)=0 publish(0,0,0,0)=1 read(0|1)=1",
+            "got(0,3..4)=0|0 claim(0,0)=1 publish(0,1,31,8)=1 read(0|1)=1 got(1,3..4)=31|8");
         // All keys, and all lengths.
         run(begun(1, "2"), each(0, 31, "claim(0,0)=# publish(0,#,#,0)=1 read(0)=1 got(0,3)=#"));
         run(begun(1, "2"), each(0, 8, "claim(0,0)=# publish(0,#,0,#)=1 read(0)=1 got(0,4)=#"));
@@ -387,15 +372,15 @@ final class WritersSentences extends Sentences {
 
         sentence("NOT: q is no claim that is OPEN.");
         run(begun(4, "4"), "publish(0,MIN|-1|0|1|MAX,0,0)=NOT batch(0,0,3)=0 publish(0,MIN|-4|-1|3|4|MAX,0,0)=NOT",
-            "told(0,2)=3 of(0,6)=0",
-            "publish(0,0|2,0,0)=1 publish(0,0|2,1,1)=NOT told(0,2)=1 of(0,6)=1 found(0)=0");
+            "told(0,2)=3 of(0,6)=0 publish(0,0|2,0,0)=1 publish(0,0|2,1,1)=NOT told(0,2)=1 of(0,6)=1 found(0)=0");
         run(begun(2, "1"), post(0, 0, 1, 0, 0), "batch(0,0,2)=2 publish(0,0|1,0,0)=NOT publish(0,4|5,0,0)=NOT",
             "told(0,2)=2 read(0)=0");
+
+        firstNamed();
         // NUMBER, STATE, GIVEN and NOT each ahead of the others behind it.
-        run("ring(1)=0 publish(1,0,0,0)=NUMBER publish(0,0,32,0)=NUMBER publish(0,0,0,9)=NUMBER",
-            "publish(0,0,0,0)=STATE begin()=1",
-            "publish(0,0,32,0)=NUMBER publish(0,0,0,9)=NUMBER publish(0,0,0,0)=NOT give(0)=1 publish(0,0,32,0)=NUMBER",
-            "publish(0,0,0,-1)=NUMBER publish(0,0,0,0)=GIVEN");
+        run("ring(1)=0 publish(1,0,0,0)=NUMBER publish(0,0,32,0)=NUMBER publish(0,0,0,9)=NUMBER publish(0,0,0,0)=STATE",
+            "begin()=1 publish(0,0,32,0)=NUMBER publish(0,0,0,9)=NUMBER publish(0,0,0,0)=NOT give(0)=1",
+            "publish(0,0,32,0)=NUMBER publish(0,0,0,-1)=NUMBER publish(0,0,0,0)=GIVEN");
     }
 
     private void close() {
@@ -421,6 +406,11 @@ final class WritersSentences extends Sentences {
 
         sentence("CLOSED: it is.");
         run("ring(1)=0 begin()=1 close(0)=1 close(0)=CLOSED close(0)=CLOSED told(0,6)=1");
+
+        firstNamed();
+        // NUMBER ahead of STATE; GIVEN ahead of CLOSED.
+        run("ring(1)=0 close(1|-1)=NUMBER close(0)=STATE begin()=1 close(0)=1 close(0)=CLOSED give(0)=1",
+            "close(0)=GIVEN");
     }
 
     private void give() {
@@ -460,10 +450,11 @@ final class WritersSentences extends Sentences {
         run(begun(4, "2|2"), post(0, 0, 1, 0, 0), "read(1*2)=1 give(0)=HELD read(0*2)=1 give(0)=1");
         // Of each kind; SEES, MISSES and FOLDS are no HOLDERS.
         for (int kind = 1; kind <= 7; kind++) {
-            run("ring(4*2)=0|1 reader(3,0,0)=0 reader(" + kind + ",0," + (kind == 6 ? 0 : 1) + ")=1",
-                "begin()=1", post(0, 0, 0, 0, 0),
-                kind == 2 || kind >= 5 ? "give(0)=HELD read(0)=1 close(1)=" + (kind == 7 ? "1 give(0)=HELD" : "1 read(1)=1 give(0)=1")
-                    : "give(0)=1");
+            boolean holds = kind == 2 || kind >= 5;
+            run("ring(4*2)=0|1 reader(3,0,0)=0 reader(" + kind + ",0," + (kind == 6 ? 0 : 1) + ")=1 begin()=1",
+                post(0, 0, 0, 0, 0),
+                holds ? "give(0)=HELD read(0)=1 read(1)=" + (kind == 5 ? "0 close(1)=1 read(1)=1" : "1") : "",
+                "give(0)=1");
         }
         run("ring(4*2)=0|1 reader(5,0,1)=0 begin()=1", post(1, 0, 0, 0, 0), "give(1)=HELD give(0)=1 read(0)=1",
             "give(1)=1");
@@ -471,26 +462,27 @@ final class WritersSentences extends Sentences {
         run("ring(1*2)=0|1 reader(2,1,0)=0 begin()=1 claim(1,0)=0 give(0)=1 give(1)=HELD");
         // That is none of the refusals of claim() and batch().
         run(begun(1, "2"), "claim(0,0)=0 give(0)=HELD by()=-1 again()=FOUND");
+
+        firstNamed();
+        // NUMBER ahead of STATE.
+        run("ring(1)=0 give(1|-1)=NUMBER give(0)=STATE");
     }
 
     private void told() {
         section("promise 18");
         sentence("Of a ring: what = 0 SLOTS, 1 CLAIMED, 2 how many claims are OPEN,");
         run("ring(1|2|4|8|16|32|64)=0..6 told(0..6,0)=1|2|4|8|16|32|64 told(0..6,1..2)=0");
-        run(begun(4, "1"), "told(0,0..2)=4|0|0 batch(0,0,4)=0 told(0,0..2)=4|4|4 publish(0,2,0,0)=1",
-            "told(0,0..2)=4|4|3 publish(0,0,0,0)=1",
-            "told(0,0..2)=4|4|2 claim(0,0)=4 told(0,0..2)=4|5|3 publish(0,1|3|4,0,0)=1 told(0,0..2)=4|5|0",
-            "claim(0,0)=5 claim(0,0)=6",
-            "told(0,0..2)=4|7|2 close(0)=1 told(0,0..2)=4|7|2 publish(0,5|6,0,0)=1 give(0)=1 told(0,0..2)=4|7|0");
+        run(begun(4, "1"), "told(0,0..2)=4|0|0 batch(0,0,4)=0 told(0,0..2)=4|4|4 publish(0,2,0,0)=1 told(0,0..2)=4|4|3",
+            "publish(0,0,0,0)=1 told(0,0..2)=4|4|2 claim(0,0)=4 told(0,0..2)=4|5|3 publish(0,1|3|4,0,0)=1",
+            "told(0,0..2)=4|5|0 claim(0,0)=5 claim(0,0)=6 told(0,0..2)=4|7|2 close(0)=1 told(0,0..2)=4|7|2",
+            "publish(0,5|6,0,0)=1 give(0)=1 told(0,0..2)=4|7|0");
         run(begun(64, "1"), "batch(0,0,64)=0 told(0,1..2)=64|64 publish(0,63,0,0)=1 told(0,2)=63",
             "publish(0,0..62,0,0)=1 told(0,2)=0");
 
         sentence("5 1 if a claim would be HELD UP, else 0,");
         run(begun(2, "2"), "told(0,5)=0 claim(0,0)=0 told(0,5)=0 claim(0,0)=1 told(0,5)=1 publish(0,0,0,0)=1",
-            "told(0,5)=1 read(0)=1",
-            "told(0,5)=0 claim(0,0)=2 told(0,5)=1 publish(0,1|2,0,0)=1 told(0,5)=1 close(0)=1 told(0,5)=1",
-            "read(0*2)=1 told(0,5)=0",
-            "give(0)=1 told(0,5)=0");
+            "told(0,5)=1 read(0)=1 told(0,5)=0 claim(0,0)=2 told(0,5)=1 publish(0,1|2,0,0)=1 told(0,5)=1 close(0)=1",
+            "told(0,5)=1 read(0*2)=1 told(0,5)=0 give(0)=1 told(0,5)=0");
 
         sentence("6 0 there, 1 CLOSED, 2 GIVEN.");
         run("ring(1*3)=0..2 told(0..2,6)=0 begin()=1 told(0..2,6)=0 close(1|2)=1 give(2)=1 told(0..2,6)=0|1|2",
@@ -499,21 +491,21 @@ final class WritersSentences extends Sentences {
 
     private void toldHolders() {
         sentence("3 the least PLACE of its HOLDERS (-1 without any), 4 how many HOLDERS,");
-        run("ring(4*2)=0|1 told(0,3..4)=-1|0 reader(1|3|4,0,0)=0..2 told(0,3..4)=-1|0 reader(2,0,0)=3",
-            "told(0,3..4)=0|1 reader(6,0,1)=4",
-            "reader(7,0,1)=5 reader(5,1,0)=6 told(0,3..4)=0|4 told(1,3..4)=0|1 begin()=1", post(0, 0, 1, 0, 0),
+        run("ring(4*2)=0|1 told(0,3..4)=-1|0 reader(1|3|4,0,0)=0..2 told(0,3..4)=-1|0 reader(2,0,0)=3 told(0,3..4)=0|1",
+            "reader(6,0,1)=4 reader(7,0,1)=5 reader(5,1,0)=6 told(0,3..4)=0|4 told(1,3..4)=0|1 begin()=1",
+            post(0, 0, 1, 0, 0),
             "read(1*2)=1 told(0,3)=0 read(3*2)=1 told(0,3)=0 read(5)=1 told(0,3)=0 read(4)=1 told(0,3)=0 close(1)=1",
-            "read(6)=1 told(0,3)=1",
-            "read(4)=1 told(0,3)=1 read(6)=1 told(0,3)=1 told(0,4)=4 told(1,3..4)=0|1");
+            "read(6)=1 told(0,3)=1 read(4)=1 told(0,3)=1 read(6)=1 told(0,3)=1 told(0,4)=4 told(1,3..4)=0|1");
         // The least one is the first, the middle, the last one in the order of numbers.
         for (int behind = 0; behind < 3; behind++) {
             run(begun(4, "2*3"), post(0, 0, 2, 0, 0), "read(0..2)=1 read(0..2)=1",
                 eachBut(behind, 0, 2, "read(#)=1"), "told(0,3..4)=2|3 read(" + behind + ")=1 told(0,3)=3");
+            run(begun(4, "2*3"), post(0, 0, 0, 0, 0), eachBut(behind, 0, 2, "read(#)=1"),
+                "told(0,3..4)=0|3 read(" + behind + ")=1 told(0,3)=1");
         }
         // As many as there are readers.
         run("ring(1)=0 reader(2*16,0,0)=0..15 told(0,3..4)=0|16 begin()=1", post(0, 0, 0, 0, 0), "read(0..14)=1",
-            "told(0,3)=0 read(15)=1",
-            "told(0,3..4)=1|16 give(0)=1 told(0,3..4)=1|16");
+            "told(0,3)=0 read(15)=1 told(0,3..4)=1|16 give(0)=1 told(0,3..4)=1|16");
     }
 
     private void toldRefusals() {
@@ -523,6 +515,8 @@ final class WritersSentences extends Sentences {
         sentence("FOUND: BEYOND: there is no such ring.");
         run("told(0,0..6)=FOUND found(0)=2 found(2)=7 ring(1*2)=0|1 told(" + NO_RING_OF_TWO + ",0)=FOUND found(2)=13");
         run(EIGHT_RINGS, "told(-1|8,0|6)=FOUND found(2)=4 told(0|7,0)=2");
+
+        firstNamed();
         // NUMBER ahead of BEYOND.
         run("told(0,7|-1)=NUMBER ring(1)=0 told(1|-1,7|-1)=NUMBER found(0)=0");
     }
@@ -531,10 +525,8 @@ final class WritersSentences extends Sentences {
         section("promise 19");
         sentence("LAST of a ring;");
         run("ring(4*2)=0|1 begin()=1 claim(0,3)=0 last(0|1)=3|0 claim(0,4)=1 last(0)=4 claim(0,3)=FALLS last(0)=4",
-            "batch(0,9,2)=2 last(0)=9",
-            "claim(0,10)=HELD last(0)=9 close(0)=1 last(0)=9 publish(0,0..3,0,0)=1 give(0)=1 last(0)=9",
-            "claim(1,MIN)=0 last(1)=MIN",
-            "claim(1,-1)=1 last(1)=-1 claim(1,MAX)=2 last(1)=MAX");
+            "batch(0,9,2)=2 last(0)=9 claim(0,10)=HELD last(0)=9 close(0)=1 last(0)=9 publish(0,0..3,0,0)=1 give(0)=1",
+            "last(0)=9 claim(1,MIN)=0 last(1)=MIN claim(1,-1)=1 last(1)=-1 claim(1,MAX)=2 last(1)=MAX");
         run(EIGHT_RINGS, "claim(0,5)=0 claim(7,6)=0 last(0..7)=5|0|0|0|0|0|0|6");
 
         sentence("0 before its first claim, and if there is no such ring.");
