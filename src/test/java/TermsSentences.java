@@ -382,6 +382,10 @@ final class TermsSentences extends Sentences {
             "publish(0,1,5,1)=1 publish(0,4,9,4)=1 publish(0,3,9,3)=1 of(0,6)=2 publish(0,5,1,5)=1",
             "entry(0,0..3)=5|9|1|-1 read(0)=1 got(0,0..4)=0|2|4|5|2 read(0)=1 got(0,0..4)=0|4|4|9|4 read(0)=1",
             "got(0,0..4)=0|5|4|1|5 read(0)=0 of(0,6)=0");
+        // In its place: the first one, the middle one and the last one of three.
+        run(begun(8, "4"), each(0, 2, "claim(0,0)=# publish(0,#,2#,0)=1"), "claim(0,0)=3 publish(0,3,20,0)=1",
+            "entry(0,0..3)=20|21|22|-1 claim(0,0)=4 publish(0,4,21,0)=1 entry(0,0..3)=20|21|22|-1 claim(0,0)=5",
+            "publish(0,5,22,0)=1 entry(0,0..3)=20|21|22|-1", each(3, 5, "read(0)=1 got(0,1)=#"), "read(0)=0");
         // All of the claim becomes the ENTRY: STAMP, LENGTH and longs, too.
         run(begun(2, "4"), "claim(0,1)=0 fill(0,0,0..7,3)=1 publish(0,0,6,1)=1 claim(0,2)=1 fill(0,1,7,4)=1",
             "publish(0,1,6,2)=1 of(0,6)=1 read(0)=1 got(0,0..4)=0|1|2|6|2 word(0,0..7)=0|0|0|0|0|0|0|4 read(0)=0");
