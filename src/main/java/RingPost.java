@@ -686,10 +686,13 @@ public final class RingPost {
         if (reason == RING_GIVEN) {
             return finding(MISSING);
         }
-        if (reason != READY) {
+        if (reason != READY || !takeNext(who)) {
             return 0;
         }
-        return takeNext(who) ? 1 : 0;
+        if (who.target != null) {
+            writeOn(who.kept, who.target);
+        }
+        return 1;
     }
 
     /** A reader that is ready gets what it reads next. */
@@ -703,11 +706,7 @@ public final class RingPost {
         if (who.kind == MERGE) {
             return takeAtPlace(who, ringOfLeastStamp(who));
         }
-        boolean taken = takeAtPlace(who, who.home);
-        if (taken && who.target != null) {
-            writeOn(who.kept, who.target);
-        }
-        return taken;
+        return takeAtPlace(who, who.home);
     }
 
     private boolean takeAtPlace(Reader who, Ring from) {
@@ -896,7 +895,7 @@ public final class RingPost {
 
         int countOpen() {
             int count = 0;
-            for (int i = 0; i < slots; i++) {
+            for (int i = 0; i < row.length; i++) {
                 if (row[i].open) {
                     count++;
                 }
@@ -1029,7 +1028,7 @@ public final class RingPost {
         }
 
         void foldIn(Message message) {
-            for (int i = 0; i < entryCount; i++) {
+            for (int i = 0; i < entryCount && i < entries.length; i++) {
                 if (entries[i].key == message.key) {
                     // Claims may be published out of order: an older one doesn't take a newer one's place.
                     if (entries[i].number < message.number) {

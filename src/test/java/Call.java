@@ -21,7 +21,7 @@ final class Call {
     private static final Map<String, Method> METHODS = methods(RingPost.class);
     private static final Map<String, Method> MODEL_METHODS = methods(Model.class);
     /** No call answers this, and none may throw. */
-    private static final long THREW = -987654321987L;
+    static final long THREW = -987654321987L;
 
     final String name;
     final String text;
@@ -51,6 +51,15 @@ final class Call {
             }
         }
         return all;
+    }
+
+    /** The names of all calls, in an order that is always the same. */
+    static List<String> names() {
+        return METHODS.keySet().stream().sorted().toList();
+    }
+
+    static int parametersOf(String name) {
+        return METHODS.get(name).getParameterCount();
     }
 
     static Call of(String name, long... numbers) {

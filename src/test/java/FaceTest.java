@@ -5,14 +5,17 @@ import java.lang.reflect.Method;
 import java.lang.reflect.Modifier;
 import java.nio.file.Files;
 import java.nio.file.Path;
+import java.util.ArrayList;
+import java.util.List;
 import java.util.Set;
 import java.util.TreeSet;
 import java.util.regex.Matcher;
 import java.util.regex.Pattern;
 
-/** The public face, and the rules of LANGUAGE.md that class and source can be asked for. */
+/** "The public face": every constant with its value, the constructor, every method with its types, and nothing else. */
 public final class FaceTest {
     private static final Checks CHECKS = new Checks();
+    private static final Path DOCUMENT = Path.of("../shared/DOC.md");
     private static final Path SOURCE = Path.of("src/main/java/RingPost.java");
 
     private static final Set<String> METHODS = Set.of("int ring(int)", "int reader(int,int,int)", "int join(int,int)",
@@ -25,19 +28,18 @@ public final class FaceTest {
     private static final Set<String> CONSTANTS = Set.of("NUMBER = -1", "STATE = -2", "KIND = -3", "FULL = -4",
         "THERE = -5", "CIRCLE = -6", "GIVEN = -7", "CLOSED = -8", "FALLS = -9", "HELD = -10", "NOT = -11",
         "FOUND = -12");
-    /** Words that no rule leaves (rules 1, 3, 6 and 13). */
-    private static final Set<String> BARRED = Set.of("throw", "throws", "try", "catch", "finally", "synchronized",
-        "assert", "package", "hashCode", "Object", "Thread", "Random", "volatile", "native");
-    private static final Set<String> IMPORTS = Set.of("java.util.Arrays", "java.util.ArrayList", "java.util.List",
-        "java.util.Iterator");
-    /** Rule 4; of Math, Integer and Long all static functions whose names don't end in Exact. */
-    private static final Set<String> LIBRARY = Set.of("System.arraycopy", "Arrays.copyOf", "Arrays.copyOfRange",
-        "Arrays.fill", "List.of");
 
     public static void main(String[] args) throws ReflectiveOperationException, IOException {
-        face();
-        insideClasses();
-        source();
+        theClass();
+        constants();
+        methods();
+        constructor();
+        groups();
+        if (Files.isReadable(DOCUMENT)) {
+            document();
+        } else {
+            System.out.println(DOCUMENT + " is not there: whether this test has its face is not looked at");
+        }
         CHECKS.end();
     }
 
@@ -50,96 +52,101 @@ public final class FaceTest {
         }
     }
 
-    private static void face() throws ReflectiveOperationException {
-        CHECKS.part("rule 1, the face");
+    private static void theClass() {
+        CHECKS.part("the class");
         Class<?> face = RingPost.class;
-        CHECKS.due("public", Modifier.isPublic(face.getModifiers()), true);
-        CHECKS.due("final", Modifier.isFinal(face.getModifiers()), true);
+        CHECKS.due("public and final", face.getModifiers(), Modifier.PUBLIC | Modifier.FINAL);
+        CHECKS.due("in no package", face.getPackageName().isEmpty(), true);
+        CHECKS.due("nothing above it", face.getSuperclass() == Object.class, true);
+        CHECKS.due("interfaces", face.getInterfaces().length, 0);
+        CHECKS.due("public classes inside", face.getClasses().length, 0);
+    }
+
+    private static void constants() throws ReflectiveOperationException {
+        CHECKS.part("the constants");
         Set<String> constants = new TreeSet<>();
-        for (Field each : face.getDeclaredFields()) {
+        for (Field each : RingPost.class.getDeclaredFields()) {
             if (!Modifier.isPrivate(each.getModifiers())) {
                 CHECKS.due(each.getName() + " is public static final", each.getModifiers(),
                     Modifier.PUBLIC | Modifier.STATIC | Modifier.FINAL);
+                CHECKS.due(each.getName() + " is an int", each.getType() == int.class, true);
                 constants.add(each.getName() + " = " + each.getInt(null));
             }
-            CHECKS.due(each.getName() + " is no changing static",
-                Modifier.isStatic(each.getModifiers()) && !Modifier.isFinal(each.getModifiers()), false);
         }
         same("constants", constants, CONSTANTS);
+    }
+
+    private static void methods() {
+        CHECKS.part("the methods");
         Set<String> methods = new TreeSet<>();
-        Set<String> publicNames = new TreeSet<>();
-        for (Method each : face.getDeclaredMethods()) {
+        for (Method each : RingPost.class.getDeclaredMethods()) {
             if (!Modifier.isPrivate(each.getModifiers())) {
                 CHECKS.due(each.getName() + " is public alone", each.getModifiers(), Modifier.PUBLIC);
+                CHECKS.due(each.getName() + " throws", each.getExceptionTypes().length, 0);
                 methods.add(signature(each));
-                publicNames.add(each.getName());
             }
         }
         same("methods", methods, METHODS);
-        for (Method each : face.getDeclaredMethods()) {
-            boolean hides = Modifier.isPrivate(each.getModifiers()) && publicNames.contains(each.getName());
-            CHECKS.due(each.getName() + " is a private name of its own", hides, false);
-            CHECKS.due(each.getName() + " takes seven at most", each.getParameterCount() <= 7, true);
-        }
-        Constructor<?>[] constructors = face.getDeclaredConstructors();
-        CHECKS.due("constructors", constructors.length, 1);
-        CHECKS.due("its parameters", constructors[0].getParameterCount(), 0);
-        CHECKS.due("it is public", Modifier.isPublic(constructors[0].getModifiers()), true);
     }
 
     private static String signature(Method method) {
-        StringBuilder text = new StringBuilder(method.getReturnType() + " " + method.getName() + "(");
+        List<String> types = new ArrayList<>();
         for (Class<?> each : method.getParameterTypes()) {
-            text.append(text.charAt(text.length() - 1) == '(' ? "" : ",").append(each);
+            types.add(each.toString());
         }
-        return text.append(')').toString();
+        return method.getReturnType() + " " + method.getName() + "(" + String.join(",", types) + ")";
     }
 
-    private static void insideClasses() {
-        CHECKS.part("rules 1, 2, 5 and 11, the classes inside");
-        Class<?>[] inside = RingPost.class.getDeclaredClasses();
-        CHECKS.due("twelve at most", inside.length <= 12, true);
-        for (Class<?> each : inside) {
-            CHECKS.due(each + " is static", Modifier.isStatic(each.getModifiers()), true);
-            CHECKS.due(each + " isn't public",
-                Modifier.isPublic(each.getModifiers()) || Modifier.isProtected(each.getModifiers()), false);
-            int fields = 0;
-            for (Field field : each.getDeclaredFields()) {
-                boolean isStatic = Modifier.isStatic(field.getModifiers());
-                CHECKS.due(each + " " + field.getName() + " is no changing static",
-                    isStatic && !Modifier.isFinal(field.getModifiers()), false);
-                fields += isStatic ? 0 : 1;
-            }
-            CHECKS.due(each + " has twenty fields at most", fields <= 20, true);
+    private static void constructor() {
+        CHECKS.part("the constructor");
+        Constructor<?>[] constructors = RingPost.class.getDeclaredConstructors();
+        CHECKS.due("constructors", constructors.length, 1);
+        CHECKS.due("its parameters", constructors[0].getParameterCount(), 0);
+        CHECKS.due("public", constructors[0].getModifiers(), Modifier.PUBLIC);
+    }
+
+    /** "Ahead of the calls .. the interface says: ---- ..". */
+    private static void groups() throws IOException {
+        CHECKS.part("where the calls stand");
+        String text = Files.readString(SOURCE);
+        stand(text, "ahead of the beginning", "ring reader join name circle begin made");
+        stand(text, "writers", "claim batch by again fill copy publish close give told last");
+        stand(text, "readers", "read round got word of place named entry target why on stuck found");
+    }
+
+    private static void stand(String text, String head, String calls) {
+        int start = text.indexOf("// ---- " + head + "\n");
+        CHECKS.due("---- " + head, start >= 0, true);
+        int end = text.indexOf("// ----", start + 1);
+        List<String> seen = found("(?m)^    public \\w+ (\\w+)\\(", text.substring(Math.max(0, start), end));
+        CHECKS.due("---- " + head + " " + seen, String.join(" ", seen).equals(calls), true);
+    }
+
+    /** The face that is written out above is the document's. */
+    private static void document() throws IOException {
+        CHECKS.part(DOCUMENT.toString());
+        String text = Files.readString(DOCUMENT);
+        String face = text.substring(text.indexOf("```java"), text.indexOf("## Terms"));
+        same("constants", new TreeSet<>(found("public static final int (\\w+ = -\\d+);", face)), CONSTANTS);
+        Set<String> methods = new TreeSet<>();
+        for (String each : found("public (\\w+ \\w+\\([^)]*\\));", face)) {
+            methods.add(each.replaceAll("(int|long) \\w+(?=[,)])", "$1").replace(", ", ","));
+        }
+        same("methods", methods, METHODS);
+        CHECKS.due("members", found("(?m)^    (public .*;)$", face).size(), CONSTANTS.size() + METHODS.size() + 1);
+        for (String each : found("(Ahead of the calls [^\n]*)", text)) {
+            String calls = String.join(" ", found("`(\\w+)`", each));
+            String head = each.replaceAll(".*: ---- |\\.$", "");
+            stand(Files.readString(SOURCE), head, calls);
         }
     }
 
-    private static void source() throws IOException {
-        CHECKS.part("rules 3, 4, 6 and 13, the source");
-        String text = Files.readString(SOURCE).replaceAll("(?s)/\\*.*?\\*/", "").replaceAll("//[^\n]*", "");
-        for (String word : found("[A-Za-z]+", text)) {
-            CHECKS.due("'" + word + "' isn't barred", BARRED.contains(word), false);
-        }
-        for (String line : found("(?m)^import [^;]*", text)) {
-            CHECKS.due(line, IMPORTS.contains(line.substring("import ".length())), true);
-        }
-        for (String line : found("(?m)^.*->", text)) {
-            CHECKS.due("no lambda: " + line.trim(), line.trim().matches("(case .*|default) ->"), true);
-        }
-        CHECKS.due("no method reference", text.contains("::"), false);
-        for (String call : found("\\b(Math|Integer|Long)\\.\\w+", text)) {
-            CHECKS.due(call + " isn't Exact", call.endsWith("Exact"), false);
-        }
-        for (String call : found("\\b(System|Arrays|List|String|StringBuilder|Character|Runtime)\\.\\w+", text)) {
-            CHECKS.due(call + " is of the library that is left", LIBRARY.contains(call), true);
-        }
-    }
-
-    private static Set<String> found(String pattern, String text) {
-        Set<String> all = new TreeSet<>();
+    /** What the first group of a pattern has found, in order. */
+    private static List<String> found(String pattern, String text) {
+        List<String> all = new ArrayList<>();
         Matcher matcher = Pattern.compile(pattern).matcher(text);
         while (matcher.find()) {
-            all.add(matcher.group());
+            all.add(matcher.group(1));
         }
         return all;
     }
